@@ -461,8 +461,9 @@ public final class TruthBridge {
     }
 
     /**
-     * The TAPE, and its tokens: a sign of its own is its byte. With the first FAULT the reading
-     * stands at the end, where nothing can be taken any more: so readers need no test for it.
+     * The TAPE, and the tokens that it is read as (a byte that is no letter, digit or blank is a
+     * token as it is). With the first FAULT the reading stands at the end, where nothing can be
+     * taken any more: so readers need no tests of their own to stop.
      */
     private static final class Text {
         static final int SIZE = 400;
@@ -1516,7 +1517,7 @@ public final class TruthBridge {
 
         private void meetAll(int facts, int set) {
             meet.setAll(facts);
-            for (int i = 0; i < size; i++) {
+            for (int i = 0; i < size && set >> i != 0; i++) {
                 if ((set >> i & 1) != 0) {
                     meet.keep(rows[i]);
                 }
@@ -1625,9 +1626,9 @@ public final class TruthBridge {
         private final Sayings sayings;
         private final Worlds mind = new Worlds();
         private final Worlds[] planned = new Worlds[MOST_PLANNED + 1];
-        private final int[] walkers = new int[MOST_PLANNED];
-        private final int[] walkersKnow = new int[MOST_PLANNED];
-        private int walkerCount;
+        private final int[] crossers = new int[MOST_PLANNED];
+        private final int[] crossersKnow = new int[MOST_PLANNED];
+        private int crosserCount;
         // The best from here, by who is over already and what the bridge was told: no order of
         // these matters, so few of all plans need be gone through.
         private final int[] plans = new int[(1 << MOST_PLANNED) * PLAN_SETS];
@@ -1702,7 +1703,7 @@ public final class TruthBridge {
         }
 
         int planFor(int side, int what) {
-            if (!gatherWalkers(side)) {
+            if (!gatherCrossers(side)) {
                 return TOO_MANY;
             }
             Arrays.fill(plans, NONE);
@@ -1716,37 +1717,37 @@ public final class TruthBridge {
                 return NOT_THERE;
             }
             int step = stepOfPlan(nth);
-            return what % 2 == 1 ? walkers[step / FIRST_SAYINGS] : step % FIRST_SAYINGS;
+            return what % 2 == 1 ? crossers[step / FIRST_SAYINGS] : step % FIRST_SAYINGS;
         }
 
-        private boolean gatherWalkers(int side) {
+        private boolean gatherCrossers(int side) {
             Moment moment = page.moment;
             int first = (1 << FIRST_SAYINGS) - 1;
-            walkerCount = 0;
+            crosserCount = 0;
             for (int person = 0; person < page.land.people; person++) {
                 if (moment.sideOf(person) == side && !moment.hasFallen(person)) {
-                    if (walkerCount >= MOST_PLANNED) {
+                    if (crosserCount >= MOST_PLANNED) {
                         return false;
                     }
-                    walkers[walkerCount] = person;
-                    walkersKnow[walkerCount] = known(moment.heldBy(person), first);
-                    walkerCount++;
+                    crossers[crosserCount] = person;
+                    crossersKnow[crosserCount] = known(moment.heldBy(person), first);
+                    crosserCount++;
                 }
             }
             return true;
         }
 
-        /** A step is a walker and a SAYING; whether it can be taken from planned[depth]. */
+        /** A step is a crosser and a SAYING; whether it can be taken from planned[depth]. */
         private boolean isStep(int depth, int step, int over) {
-            int walker = step / FIRST_SAYINGS;
+            int crosser = step / FIRST_SAYINGS;
             int saying = step % FIRST_SAYINGS;
-            return (over >> walker & 1) == 0 && (walkersKnow[walker] >> saying & 1) != 0
-                    && bears(planned[depth], walkers[walker], saying);
+            return (over >> crosser & 1) == 0 && (crossersKnow[crosser] >> saying & 1) != 0
+                    && bears(planned[depth], crossers[crosser], saying);
         }
 
         /** The first of the steps behind which most get over, and how many do, kept together. */
         private int bestFrom(int depth, int over, int told) {
-            if (depth >= walkerCount) {
+            if (depth >= crosserCount) {
                 return 0;
             }
             int index = over * PLAN_SETS + told;
@@ -1754,12 +1755,12 @@ public final class TruthBridge {
                 return plans[index];
             }
             int best = 0;
-            for (int step = 0; step < walkerCount * FIRST_SAYINGS; step++) {
+            for (int step = 0; step < crosserCount * FIRST_SAYINGS; step++) {
                 if (isStep(depth, step, over)) {
                     planned[depth + 1].copyFrom(planned[depth]);
                     planned[depth + 1].keep(sayings.rows[step % FIRST_SAYINGS]);
-                    int behind = bestFrom(depth + 1, overBehind(over, step), toldBehind(told, step));
-                    int most = 1 + behind / STEPS;
+                    int then = bestFrom(depth + 1, overBy(over, step), toldBy(told, step));
+                    int most = 1 + then / STEPS;
                     if (most > best / STEPS) {
                         best = most * STEPS + step;
                     }
@@ -1769,11 +1770,11 @@ public final class TruthBridge {
             return best;
         }
 
-        private static int overBehind(int over, int step) {
+        private static int overBy(int over, int step) {
             return over | 1 << step / FIRST_SAYINGS;
         }
 
-        private static int toldBehind(int told, int step) {
+        private static int toldBy(int told, int step) {
             return told | 1 << step % FIRST_SAYINGS;
         }
 
@@ -1782,8 +1783,8 @@ public final class TruthBridge {
             int told = 0;
             for (int i = 0; i < nth; i++) {
                 int step = plans[over * PLAN_SETS + told] % STEPS;
-                over = overBehind(over, step);
-                told = toldBehind(told, step);
+                over = overBy(over, step);
+                told = toldBy(told, step);
             }
             return plans[over * PLAN_SETS + told] % STEPS;
         }

@@ -101,6 +101,21 @@ final class ActTest {
         Check.due("14 and 14 are too many", b.look(1, 2), -1);
         TruthBridge none = Check.bridge("facts 1 1;person 0 1 0 0");
         Check.due("no places at all", none.look(0, 0), -1);
+        TruthBridge six = Check.bridge("facts 1 1;person 0 1 0 0;person 0 1 0 0;person 0 1 0 0;person 0 1 0 0;person 0 1 0 0;"
+                + "person 0 1 0 0;place 0;place 0;path 0 1 1", "not a");
+        for (int p = 0; p < 6; p++) {
+            for (int times = 0; times <= p; times++) {
+                six.look(p, 1);
+            }
+            six.undo();
+            Check.due("hours of " + p + " but for the last look", six.person(p, 3), 2 * p);
+            Check.due("falls", six.cross(p, 0), 0);
+        }
+        Check.land(six, "facts 1 1;person 0 1 0 0;person 0 1 0 0;person 0 1 0 0;person 0 1 0 0;person 0 1 0 0;person 0 1 0 0");
+        for (int p = 0; p < 6; p++) {
+            Check.due("a new land has new hours", six.person(p, 3), 0);
+            Check.due("and nobody who fell", six.person(p, 4), 0);
+        }
     }
 
     private static void midnights() {
@@ -129,14 +144,16 @@ final class ActTest {
 
     /** Of each fact alone: what is known of the others stays. */
     private static void turnsOfManyFacts() {
-        for (int fact = 0; fact < 8; fact++) {
-            TruthBridge b = Check.bridge("facts 8 90;person 0 1 255 0;turn " + fact + " 1");
+        for (int turned = 0; turned < 32; turned++) {
+            int fact = turned % 8;
+            int so = turned / 8 * 64 + 26;
+            TruthBridge b = Check.bridge("facts 8 " + so + ";person 0 1 255 0;turn " + fact + " 1");
             b.midnight();
-            Check.due("facts behind the turn of " + fact, b.count(1), 90 ^ 1 << fact);
+            Check.due("facts behind the turn of " + fact, b.count(1), so ^ 1 << fact);
             Check.due("what is still known", b.person(0, 6), 255 ^ 1 << fact);
             Check.due("two worlds", b.person(0, 5), 2);
-            Check.due("the one", b.possible(0, 90), 1);
-            Check.due("the other", b.possible(0, 90 ^ 1 << fact), 1);
+            Check.due("the one", b.possible(0, so), 1);
+            Check.due("the other", b.possible(0, so ^ 1 << fact), 1);
         }
     }
 

@@ -144,6 +144,16 @@ final class AdviceTest {
         Check.due("b alone, though a lies on the way", b.walk(0, 1), 4);
         b.look(0, 0);
         Check.due("no hours gone", b.walk(0, 0), 24);
+        TruthBridge round = Check.bridge("facts 2 3;person 0 3 0 0;person 0 2 0 0;place 0;place 0;place 1;path 0 1 8;path 1 2 8;"
+                + "path 0 2 8", "a and b");
+        Check.due("b alone can be seen, a at the bridge", round.walk(0, 0), 16);
+        TruthBridge odd = Check.bridge("facts 3 7;person 0 6 0 0;place 2;place 0;place 1;path 0 1 8;path 1 2 9;path 0 2 8",
+                "a and b");
+        Check.due("25 hours are too many", odd.walk(0, 0), -2);
+        TruthBridge even = Check.bridge("facts 3 7;person 0 6 0 0;place 2;place 0;place 1;path 0 1 8;path 1 2 8;path 0 2 8",
+                "a and b");
+        Check.due("24 hours are not", even.walk(0, 0), 24);
+        Check.due("two places", even.walk(0, 1), 6);
         TruthBridge far = Check.bridge("facts 1 1;person 0 1 0 0;place 0;place 0;path 0 1 9", "a");
         Check.due("of two sets the fewest hours", far.walk(0, 1), 1);
         TruthBridge apart = Check.bridge("facts 2 3;person 0 1 0 0;place 0;place 1", "b");
@@ -172,6 +182,9 @@ final class AdviceTest {
         Check.due("of two sets the least", c.bought(0, 1), 6);
         TruthBridge d = Check.bridge("facts 2 3;person 0 3 0 9;person 1 1 3 6;person 0 1 1 0;person 0 1 2 6", "a and b");
         Check.due("none of whom is not needed", d.bought(0, 1), 2);
+        TruthBridge first = Check.bridge("facts 2 3;person 1 1 3 7;person 0 3 0 0;person 0 1 3 8", "a and b");
+        Check.due("from person 0", first.bought(1, 0), 7);
+        Check.due("the set of person 0", first.bought(1, 1), 1);
         TruthBridge e = Check.bridge("facts 2 1;person 0 1 0 0;person 0 1 1 0", "b", "not a");
         Check.due("not by what is not so", e.bought(0, 0), -2);
         Check.due("without a land", new TruthBridge().bought(0, 0), -1);

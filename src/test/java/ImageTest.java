@@ -4,6 +4,7 @@ final class ImageTest {
         wrongOnes();
         allIsAsItWas();
         whatCanBeUndone();
+        whatStoodBefore();
         nothingTold();
         fourOfThem();
         Check.finish("ImageTest");
@@ -91,6 +92,53 @@ final class ImageTest {
             Check.due("undo", b.undo(), i);
             Check.due("day", b.count(8), i + 6);
         }
+    }
+
+    /** Other acts and trials stand in the same places meanwhile. */
+    private static void whatStoodBefore() {
+        TruthBridge b = Check.bridge("facts 2 3;person 0 1 1 0;place 0;place 1;path 0 1 2", "a", "b", "not a");
+        b.midnight();
+        b.midnight();
+        b.trial(0, true);
+        b.trial(1, false);
+        b.image(0);
+        b.undo();
+        b.undo();
+        b.look(0, 1);
+        b.cross(0, 2);
+        b.trial(-1, false);
+        b.trial(0, false);
+        b.trial(1, true);
+        b.trial(2, false);
+        Check.due("sets with b, without a and not a", b.sets(0), 1);
+        b.image(1);
+        Check.due("back", b.back(0), 2);
+        Check.due("trials", b.count(10), 2);
+        Check.due("sets with a, without b and not a", b.sets(0), 1);
+        Check.due("a", b.sets(1), 1);
+        Check.due("neither b nor not a", b.sets(2), 6);
+        Check.due("undo", b.undo(), 1);
+        Check.due("day 1", b.count(8), 1);
+        Check.due("nobody went", b.person(0, 3), 0);
+        Check.due("undo", b.undo(), 0);
+        Check.due("day 0", b.count(8), 0);
+        Check.due("forth", b.back(1), 0);
+        Check.due("b", b.sets(1), 2);
+        Check.due("undo the fall", b.undo(), 1);
+        Check.due("the look stands", b.person(0, 3), 4);
+        Check.due("undo the look", b.undo(), 0);
+        Check.due("no hours", b.person(0, 3), 0);
+        Check.land(b, "facts 4 9;person 1 1 1 0");
+        b.cross(0, 0);
+        b.cross(0, 0);
+        b.cross(0, 0);
+        Check.due("back to the other land", b.back(0), 2);
+        Check.due("undo there", b.undo(), 1);
+        Check.due("undo all there", b.undo(), 0);
+        Check.due("its first day", b.count(8), 0);
+        Check.due("its facts", b.count(1), 3);
+        Check.due("its worlds", b.count(9), 4);
+        Check.due("its people", b.person(0, 0), 0);
     }
 
     private static void nothingTold() {

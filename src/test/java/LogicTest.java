@@ -59,6 +59,7 @@ final class LogicTest {
         Check.due("of three times three the least", c.fewest(31, 5), 7);
         Check.due("of two times three the least", c.fewest(29, 5), 21);
         Check.due("the last three", c.fewest(28, 5), 28);
+        Check.due("not one that is not in the set", c.fewest(24, 3), 8);
         TruthBridge none = new TruthBridge();
         Check.saying(none, "a");
         Check.due("without a land", none.fewest(1, 0), -1);
@@ -135,6 +136,11 @@ final class LogicTest {
         Check.due("the last turn", b.when(0, 10), 99);
         TruthBridge c = Check.bridge("facts 1 0;turn 0 99", "a");
         Check.due("99 is the last of 100 days from 0", c.when(0, 0), 99);
+        TruthBridge e = Check.bridge("facts 1 0;turn 0 1", "a", "not a");
+        Check.due("turned on the next day", e.when(0, 5), 5);
+        Check.due("from the next day", e.when(0, 1), 1);
+        Check.due("not any more", e.when(1, 1), -2);
+        Check.due("today still", e.when(1, 0), 0);
         TruthBridge d = Check.bridge("facts 2 0;turn 0 99;turn 1 98", "a", "b and not a");
         Check.due("one day only", d.when(1, 0), 98);
         Check.due("from day 99", d.when(1, 99), -2);

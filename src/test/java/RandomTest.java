@@ -4,13 +4,13 @@ import java.util.Random;
 final class RandomTest {
     private static int[] kinds = new int[60];
     private static int[] good = new int[60];
+    private static int[] plans = new int[5];
 
     private final Random random;
     private final Texts texts;
     private final TruthBridge bridge = new TruthBridge();
     private final Model model = new Model();
     private final int run;
-    private int facts = 3;
     private final StringBuilder log = new StringBuilder();
 
     private RandomTest(int run) {
@@ -30,11 +30,17 @@ final class RandomTest {
                 System.out.println("call " + i + ": " + kinds[i] + ", answered 0 or more: " + good[i]);
             }
         }
+        if (args.length > 0) {
+            System.out.println("plans of 0 to 4: " + java.util.Arrays.toString(plans));
+        }
         Check.finish("RandomTest");
     }
 
     private void play() {
         for (int i = 0; i < 400; i++) {
+            if (i == 10) {
+                everything();
+            }
             int kind = i == 0 && random.nextInt(10) > 0 ? 3 : i < 8 && random.nextInt(3) > 0 ? 4 : random.nextInt(45);
             if (kind == 3 && i > 0 && random.nextInt(4) > 0) {
                 kind = 5;
@@ -128,7 +134,7 @@ final class RandomTest {
                 feed(texts.land());
                 return check("land()", bridge.land(), model.land());
             case 4:
-                feed(texts.saying(Math.max(1, model.count(0))));
+                feed(texts.saying(Math.max(1, model.count(0)), model.count(1)));
                 return check("saying()", bridge.saying(), model.saying());
             case 5:
                 feed(texts.rule());
@@ -277,6 +283,19 @@ final class RandomTest {
         for (int p = 0; p < model.count(2); p++) {
             for (int i = 0; i <= 6; i++) {
                 check("person(" + p + ", " + i + ")", bridge.person(p, i), model.person(p, i));
+            }
+            for (int i = 0; i < 2; i++) {
+                check("least(" + p + ", " + i + ")", bridge.least(p, i), model.least(p, i));
+                check("walk(" + p + ", " + i + ")", bridge.walk(p, i), model.walk(p, i));
+                check("bought(" + p + ", " + i + ")", bridge.bought(p, i), model.bought(p, i));
+            }
+        }
+        for (int side = 0; side < 2; side++) {
+            for (int i = 0; i <= 8; i++) {
+                int got = check("plan(" + side + ", " + i + ")", bridge.plan(side, i), model.plan(side, i));
+                if (i == 0 && got >= 0) {
+                    plans[got]++;
+                }
             }
         }
         return 0;

@@ -4,6 +4,7 @@ final class RuleTest {
         faults();
         limits();
         six();
+        oneAfterAnother();
         sums();
         tests();
         words();
@@ -41,6 +42,9 @@ final class RuleTest {
         due("say 1 if 1=<1", Check.fault(11, 0));
         due("say 1 if 1<=1", 0);
         due("say 1 if 1>=1", 0);
+        due("say 1 if 1<=", Check.fault(12, 0));
+        due("say 1 if 1>=", Check.fault(12, 0));
+        due("say 1 if 1<", Check.fault(11, 0));
         due("say 1 if 1< =1", Check.fault(12, 0));
         due("say 1 if 1>>1", Check.fault(11, 0));
         due("say 1 if not", Check.fault(12, 0));
@@ -100,6 +104,22 @@ final class RuleTest {
         Check.due("its tape stays", b.count(13), 5);
         Check.due("a wrong seventh", Check.rule(b, "s"), -1);
         Check.due("rules", b.count(7), 6);
+    }
+
+    /** Each text begins anew, whatever was read before it. */
+    private static void oneAfterAnother() {
+        TruthBridge b = Check.bridge("facts 3 7;person 0 1 7 0", "a", "b", "c");
+        for (int i = 0; i < 6; i++) {
+            Check.due("a wrong rule", Check.rule(b, "say 1;say 2 if 1=1 and [1"), Check.fault(25, 0));
+            Check.due("a full rule", Check.rule(b, "say 1" + "+1-1".repeat(9) + " if saying=" + i + ";"
+                    + "say 5 if 1=2;".repeat(9) + "say 0;say 9"), i);
+        }
+        for (int i = 2; i >= 0; i--) {
+            Check.due("run of rule " + i, b.run(i, 1), 1);
+            Check.due("known by rule " + i, b.knows(-1, i), 1);
+            Check.due("worlds by rule " + i, b.count(9), 1 << i);
+        }
+        Check.due("rule 5 says nothing", b.run(5, 1), 0);
     }
 
     /** Whether one crosses at all tells whether a sum is above 0. */

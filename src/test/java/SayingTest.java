@@ -50,6 +50,9 @@ final class SayingTest {
         due("i", Check.fault(0, 0));
         due("A", Check.fault(0, 0));
         due("ab", Check.fault(0, 0));
+        due("az", Check.fault(0, 0));
+        due("a{", Check.fault(1, 0));
+        due("a`", Check.fault(1, 0));
         due("nota", Check.fault(0, 0));
         due("a orb", Check.fault(2, 0));
         due("a b", Check.fault(2, 0));

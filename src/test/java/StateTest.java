@@ -6,6 +6,8 @@ final class StateTest {
         ways();
         truthAndKnowledge();
         eightFacts();
+        landsOfEachSize();
+        shownHigh();
         withoutLand();
         counts();
         Check.finish("StateTest");
@@ -55,6 +57,8 @@ final class StateTest {
             Check.due("way(" + i + ", 5)", b.way(i, 5), -1);
             Check.due("way(-1, " + i + ")", b.way(-1, i), -1);
         }
+        TruthBridge by = Check.bridge("facts 1 1;place 0;place 0;place 0;path 0 1 4;path 0 2 5");
+        Check.due("a way by the bridge", by.way(1, 2), 9);
         TruthBridge row = Check.bridge("facts 1 1;place 0;place 0;place 0;place 0;place 0;place 0;path 4 5 9;path 3 4 9;"
                 + "path 2 3 9;path 1 2 9;path 0 1 9");
         Check.due("the longest way", row.way(0, 5), 45);
@@ -119,6 +123,11 @@ final class StateTest {
                 Check.due("so(" + s + ", " + w + ")", b.so(s, w), so[s]);
             }
         }
+        for (int w = 0; w < 256; w++) {
+            Check.due("so(2, " + w + ")", b.so(2, w), w >= 192 ? 1 : 0);
+            Check.due("so(5, " + w + ")", b.so(5, w), w >= 192 ? 0 : 1);
+            Check.due("so(0, " + w + ")", b.so(0, w), w >> 6 & 1);
+        }
         Check.due("possible(0, 191)", b.possible(0, 191), 0);
         Check.due("possible(0, 192)", b.possible(0, 192), 1);
         Check.due("possible(1, 255)", b.possible(1, 255), 1);
@@ -126,6 +135,30 @@ final class StateTest {
         Check.due("possible(3, 192)", b.possible(3, 192), 1);
         Check.due("possible(3, 193)", b.possible(3, 193), 0);
         Check.due("possible(3, 256)", b.possible(3, 256), -2);
+    }
+
+    private static void landsOfEachSize() {
+        for (int facts = 1; facts <= 8; facts++) {
+            int all = (1 << facts) - 1;
+            TruthBridge b = Check.bridge("facts " + facts + " 0;person 0 1 0 0;person 0 1 " + all + " 0", "a or not a", "a");
+            Check.due("worlds of " + facts, b.count(9), 1 << facts);
+            Check.due("worlds of who knows nothing", b.person(0, 5), 1 << facts);
+            Check.due("worlds of who knows all", b.person(1, 5), 1);
+            Check.due("facts of who knows all", b.person(1, 6), all);
+            Check.due("the last world", b.possible(-1, all), 1);
+            Check.due("one more", b.possible(-1, all + 1), -2);
+            Check.due("gain of a", b.gain(1), 1 << facts - 1);
+            Check.due("what must be is known", b.knows(-1, 0), 1);
+        }
+    }
+
+    private static void shownHigh() {
+        TruthBridge b = Check.bridge("facts 8 0", "not g or not a", "not h or not b or g", "not g or not h or not c", "not a",
+                "not f or not e");
+        int[] shown = {65, 130, 196, 1, 48};
+        for (int s = 0; s < 5; s++) {
+            Check.due("shown high of " + s, b.shown(s), shown[s]);
+        }
     }
 
     private static void withoutLand() {

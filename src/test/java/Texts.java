@@ -7,10 +7,14 @@ import java.util.Random;
 final class Texts {
     private static final String SPOIL = "abchinotrsayifdwk0129 [];<=>+-*/%,A\u0000\u00e1";
     private final Random random;
+    // Lands in which many can get over: light people who know much, and sayings that are so.
+    private final boolean rich;
     private int left;
+    private int so;
 
     Texts(Random random) {
         this.random = random;
+        rich = random.nextInt(2) == 0;
     }
 
     private boolean chance(int percent) {
@@ -46,11 +50,12 @@ final class Texts {
     String land() {
         int facts = chance(15) ? 8 : 1 + random.nextInt(6);
         List<String> clauses = new ArrayList<>();
-        int people = chance(3) ? 7 : random.nextInt(7);
+        int people = chance(3) ? 7 : rich ? 3 + random.nextInt(4) : random.nextInt(7);
         for (int i = 0; i < people; i++) {
-            int most = chance(70) ? Math.max(1, 1 << facts - 2) : 128;
-            clauses.add(clause("person", number(0, chance(60) ? 0 + 1 : 1), number(1, Math.min(128, Math.max(1, most))),
-                    number(0, (1 << facts) - 1), number(0, chance(50) ? 5 : 99)));
+            int most = rich ? 1 << Math.max(0, facts - 3) : chance(70) ? 1 << Math.max(0, facts - 2) : 128;
+            int all = (1 << facts) - 1;
+            clauses.add(clause("person", number(0, 1), number(1, most), rich ? number(all / 2, all) : number(0, all),
+                    number(0, chance(50) ? 5 : 99)));
         }
         int turns = chance(2) ? 9 : random.nextInt(4);
         for (int i = 0; i < turns; i++) {
@@ -73,8 +78,9 @@ final class Texts {
         return spoil(fit(String.join(";" + maybeGap(), clauses)));
     }
 
-    String saying(int facts) {
-        left = chance(10) ? 24 + random.nextInt(2) : 1 + random.nextInt(6);
+    String saying(int facts, int so) {
+        this.so = so;
+        left = chance(10) ? 24 + random.nextInt(2) : 1 + random.nextInt(rich ? 3 : 6);
         StringBuilder b = new StringBuilder();
         if (chance(5)) {
             int deep = 9 + random.nextInt(3);
@@ -100,7 +106,9 @@ final class Texts {
 
     private String letter(int facts) {
         left--;
-        return "" + (char) ('a' + random.nextInt(chance(5) ? 8 : Math.max(1, facts)));
+        int fact = random.nextInt(chance(5) ? 8 : Math.max(1, facts));
+        String letter = "" + (char) ('a' + fact);
+        return rich && (so >> fact & 1) == 0 && chance(90) ? "not " + letter : letter;
     }
 
     private void saying(StringBuilder b, int facts, int depth) {
