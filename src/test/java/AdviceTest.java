@@ -154,6 +154,15 @@ final class AdviceTest {
                 "a and b");
         Check.due("24 hours are not", even.walk(0, 0), 24);
         Check.due("two places", even.walk(0, 1), 6);
+        TruthBridge all = Check.bridge("facts 6 63;person 0 63 0 0;person 0 62 62 0;place 0;place 1;place 2;place 3;place 4;"
+                + "place 5;path 0 1 4;path 1 2 4;path 2 3 4;path 3 4 4;path 4 5 4;path 5 0 4", "a and b and c and d and e and f");
+        Check.due("round by all places", all.walk(0, 0), 24);
+        Check.due("all places", all.walk(0, 1), 63);
+        Check.due("only the bridge's own", all.walk(1, 1), 1);
+        TruthBridge star = Check.bridge("facts 6 63;person 0 62 1 0;place 0;place 1;place 2;place 3;place 4;place 5;path 0 1 1;"
+                + "path 0 2 2;path 0 3 3;path 0 4 2;path 0 5 3", "a and b and c and d and e and f");
+        Check.due("there and back to each", star.walk(0, 0), 22);
+        Check.due("all but the bridge", star.walk(0, 1), 62);
         TruthBridge far = Check.bridge("facts 1 1;person 0 1 0 0;place 0;place 0;path 0 1 9", "a");
         Check.due("of two sets the fewest hours", far.walk(0, 1), 1);
         TruthBridge apart = Check.bridge("facts 2 3;person 0 1 0 0;place 0;place 1", "b");
