@@ -1,7 +1,12 @@
+import java.lang.reflect.Method;
+import java.util.Arrays;
+import java.util.Comparator;
+
 /** What the tests share: texts are fed as bytes, answers are compared, and counted. */
 final class Check {
     private static int passed = 0;
     private static int failed = 0;
+    private static String test = "";
 
     private Check() {
     }
@@ -11,8 +16,25 @@ final class Check {
             passed++;
         } else {
             failed++;
-            System.out.println(call + " answered " + got + ", due is " + want);
+            System.out.println(test + call + " answered " + got + ", due is " + want);
         }
+    }
+
+    /** Runs each test of a class: the methods that are named after a term or a promise. */
+    static void cases(Class<?> tests) throws ReflectiveOperationException {
+        Method[] methods = tests.getDeclaredMethods();
+        Arrays.sort(methods, Comparator.comparing(Method::getName));
+        for (Method method : methods) {
+            if (method.getName().matches("(term|promise\\d).*")) {
+                int before = passed + failed;
+                test = method.getName() + ": ";
+                method.invoke(null);
+                Story.settleAll();
+                due("the test has looked at something", passed + failed > before ? 1 : 0, 1);
+            }
+        }
+        test = "";
+        finish(tests.getName());
     }
 
     static void feed(TruthBridge bridge, String text) {
