@@ -49,6 +49,29 @@ final class ActEdgeTest {
         }
     }
 
+    /** WORLDS of three kinds alone are left: then what is so in one kind alone is not KNOWN. */
+    static void termKnownInEachQuarterOfTheWorlds() {
+        String[] kinds = {"not g and not h", "g and not h", "not g and h", "g and h"};
+        for (int one = 0; one < 4; one++) {
+            for (int other = one + 1; other < 4; other++) {
+                int facts = 64 * one + 1;
+                Story story = new Story("facts 8 " + facts + ";person 0 1 0 0", kinds[one] + " or " + kinds[other], "a",
+                        kinds[one], kinds[other], "b or not b", "not a and [" + kinds[one] + " or " + kinds[other] + "]");
+                story.due("both kinds", b -> b.cross(0, 0), 3);
+                int[] known = {1, 0, 0, 0, 1, 0};
+                for (int s = 0; s < 6; s++) {
+                    int told = s;
+                    story.idle("KNOWN " + s, b -> b.knows(-1, told), known[s]);
+                    story.idle("FOLLOWS " + s, b -> b.follows(1, told), known[s]);
+                }
+                story.idle("a isn't OPPOSITE to both kinds", b -> b.opposite(0, 1), 0);
+                story.idle("nor to one", b -> b.opposite(1, 2), 0);
+                story.idle("a and not a are", b -> b.opposite(1, 5), 1);
+                story.idle("both kinds are to each other", b -> b.opposite(2, 3), 1);
+            }
+        }
+    }
+
     static void termGainFromNoWorldToAll() {
         Story story = new Story("facts 8 255", "a or not a", ANY, "a", ALL, "a and not a");
         int[] gain = {0, 1, 128, 255, 256};
@@ -385,16 +408,44 @@ final class ActEdgeTest {
         Story story = new Story("facts 2 3;person 0 1 1 0;person 0 1 0 0;place 1;place 1;path 0 1 5;turn 0 1", "a", "not a");
         story.due("image", b -> b.image(0), 0);
         story.due("cross", b -> b.cross(0, 0), 3);
-        story.due("undo", TruthBridge::undo, 0);
+        asAtFirst(story.due("undo", TruthBridge::undo, 0));
         story.due("tell", b -> b.tell(0, 1, 0), 2);
-        story.due("undo", TruthBridge::undo, 0);
+        asAtFirst(story.due("undo", TruthBridge::undo, 0));
         story.due("look", b -> b.look(1, 1), 1);
-        story.due("undo", TruthBridge::undo, 0);
+        asAtFirst(story.due("undo", TruthBridge::undo, 0));
         story.due("midnight", TruthBridge::midnight, 1);
-        story.due("undo", TruthBridge::undo, 0);
+        asAtFirst(story.due("undo", TruthBridge::undo, 0));
         story.due("a fall", b -> b.cross(1, 1), 0);
-        story.due("undo", TruthBridge::undo, 0);
+        asAtFirst(story.due("undo", TruthBridge::undo, 0));
         story.idle("all is as in the IMAGE", b -> b.back(0), 0);
+    }
+
+    private static void asAtFirst(Story story) {
+        int[][] people = {{0, 1, 0, 0, 0, 2, 1}, {0, 1, 0, 0, 0, 4, 0}};
+        for (int i = 0; i < 14; i++) {
+            int p = i / 7;
+            int what = i % 7;
+            story.idle("person(" + p + ", " + what + ")", b -> b.person(p, what), people[p][what]);
+        }
+        story.idle("DAY", b -> b.count(8), 0);
+        story.idle("FACTS", b -> b.count(1), 3);
+        story.idle("WORLDS of the bridge", b -> b.count(9), 4);
+    }
+
+    static void termUndoHoursOfEachPerson() {
+        Story story = new Story("facts 1 1" + ";person 0 1 0 0".repeat(6) + ";place 0;place 0;path 0 1 2", "not a");
+        for (int p = 0; p < 6; p++) {
+            int who = p;
+            story.due("look", b -> b.look(who, 1), 1);
+        }
+        story.due("midnight", TruthBridge::midnight, 1);
+        story.due("undo", TruthBridge::undo, 6);
+        for (int p = 5; p >= 0; p--) {
+            int who = p;
+            story.idle("HOURS are gone again", b -> b.person(who, 3), 4);
+            story.due("undo", TruthBridge::undo, p);
+            story.idle("they never were", b -> b.person(who, 3), 0);
+        }
     }
 
     static void termUndoRefusedActsDoNotCount() {

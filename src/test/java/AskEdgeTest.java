@@ -58,6 +58,18 @@ final class AskEdgeTest {
         }
     }
 
+    static void termShownInEachPartOfTheWorlds() {
+        for (int world : new int[] {1, 2, 62, 63, 64, 65, 126, 127, 128, 129, 190, 191, 192, 193, 254, 255}) {
+            StringBuilder not = new StringBuilder("not [");
+            for (int fact = 0; fact < 8; fact++) {
+                not.append(fact > 0 ? " and " : "").append((world >> fact & 1) == 1 ? "" : "not ").append((char) ('a' + fact));
+            }
+            Story story = new Story("facts 8 0", not + "]");
+            story.idle("in WORLD " + world + " alone it is not so", b -> b.shown(0), world);
+            story.idle("GAIN", b -> b.gain(0), 1);
+        }
+    }
+
     static void termFollowsFromNoSayings() {
         Story story = new Story("facts 2 0", "a", "a or not a", "not c", "c");
         int[] follows = {0, 1, 1, 0};
@@ -120,6 +132,10 @@ final class AskEdgeTest {
         story.idle("two of five", b -> b.fewest(63, 6), 48);
         story.idle("three of four", b -> b.fewest(47, 6), 37);
         story.idle("itself", b -> b.fewest(127, 6), 64);
+        Story outside = new Story("facts 2 0", "a and b", "a", "b", "a and b", "a or not a");
+        outside.idle("not one that isn't in the set", b -> b.fewest(6, 0), 6);
+        outside.idle("nor itself", b -> b.fewest(14, 0), 8);
+        outside.idle("none is needed", b -> b.fewest(14, 4), 0);
     }
 
     static void termOppositeInNoWorldOfTheLand() {
@@ -246,8 +262,10 @@ final class AskEdgeTest {
         Story story = new Story("facts 2 3;person 0 1 1 0;person 0 1 1 0;person 0 1 2 0;person 0 2 2 0;person 0 3 2 0", "a", "b");
         story.idle("a", b -> b.least(0, 0), 0);
         story.idle("not by a; by b one of weight 1, none of 2 or 3", b -> b.least(0, 1), 1);
-        story.due("who falls does not", b -> b.cross(2, 0), 3);
+        story.due("2 goes over by a", b -> b.cross(2, 0), 3);
         story.idle("a is told: b gains 1", b -> b.least(3, 0), -2);
+        Story last = new Story("facts 2 3;person 0 1 2 0;person 1 1 2 0;person 0 1 1 0", "a", "b");
+        last.idle("0 is another one", b -> b.least(2, 1), 1);
     }
 
     static void termPlanFor4PeopleAtMost() {
@@ -506,6 +524,10 @@ final class AskEdgeTest {
         story.idle("four SETS", b -> b.sets(0), 4);
         story.due("the first again", b -> b.trial(1, false), 1);
         story.idle("two SETS", b -> b.sets(0), 2);
+        story.idle("b in none, though one FELL in the first ahead", b -> b.sets(2), 2);
+        story.due("none", b -> b.trial(-1, true), 0);
+        story.due("by a one FELL not", b -> b.trial(0, false), 1);
+        story.idle("a in none", b -> b.sets(2), 1);
     }
 
     static void termNextTheGreaterPartIsFewest() {
@@ -683,6 +705,10 @@ final class AskEdgeTest {
             story.due("undo", TruthBridge::undo, left);
         }
         story.due("other ACTS", b -> b.cross(0, 0), 3);
+        story.land("facts 2 3;person 1 1 0 0;place 0", 1);
+        for (int acts = 1; acts <= 20; acts++) {
+            story.due("other ACTS of another LAND", b -> b.look(0, 0), 1);
+        }
         story.due("back", b -> b.back(2), 21);
         story.idle("20 ACTS", b -> b.count(11), 20);
         for (int left = 19; left >= 0; left--) {
@@ -690,6 +716,44 @@ final class AskEdgeTest {
             story.idle("DAY", b -> b.count(8), left + 1);
         }
         story.idle("no more", TruthBridge::undo, -2);
+    }
+
+    static void termImageTrialsAsTheyWere() {
+        Story story = new Story("facts 4 0", "a", "b", "c", "d");
+        story.due("by a one FELL", b -> b.trial(0, true), 1);
+        story.due("by b not", b -> b.trial(1, false), 2);
+        story.due("image", b -> b.image(0), 0);
+        story.due("none", b -> b.trial(-1, true), 0);
+        story.due("by c not", b -> b.trial(2, false), 1);
+        story.due("by d one FELL", b -> b.trial(3, true), 2);
+        story.due("another image", b -> b.image(1), 0);
+        story.idle("d in all", b -> b.sets(1), 8);
+        story.idle("c in none", b -> b.sets(2), 4);
+        story.due("back", b -> b.back(0), 0);
+        story.idle("a in all", b -> b.sets(1), 1);
+        story.idle("b in none", b -> b.sets(2), 2);
+        story.due("back", b -> b.back(1), 0);
+        story.idle("d in all again", b -> b.sets(1), 8);
+        story.idle("c in none again", b -> b.sets(2), 4);
+    }
+
+    static void termImageHoursWhoFellAndWhoIsWhere() {
+        Story story = new Story("facts 2 3;person 0 1 0 0;person 0 1 1 0;place 0;place 0;path 0 1 2", "a", "not a");
+        story.due("look", b -> b.look(0, 1), 1);
+        story.due("falls", b -> b.cross(0, 1), 0);
+        story.due("over", b -> b.cross(1, 0), 3);
+        story.due("image", b -> b.image(0), 0);
+        story.due("midnight", TruthBridge::midnight, 1);
+        story.due("look", b -> b.look(1, 1), 1);
+        story.land("facts 1 1;person 0 1 0 0;person 0 1 0 0", 2);
+        story.due("back", b -> b.back(0), 0);
+        int[][] people = {{0, 1, 0, 4, 1, 2, 1}, {1, 1, 0, 0, 0, 2, 1}};
+        for (int i = 0; i < 14; i++) {
+            int p = i / 7;
+            int what = i % 7;
+            story.idle("person(" + p + ", " + what + ")", b -> b.person(p, what), people[p][what]);
+        }
+        story.idle("WORLDS of the bridge", b -> b.count(9), 2);
     }
 
     static void termImageTrialsXAndTheLandAsTheyWere() {

@@ -90,6 +90,9 @@ final class FaultEdgeTest {
         saying("a and", -2 - 1 - 8 * 5);
         saying("[a  ", -2 - 1 - 8 * 4);
         rule("say 1 if 1<", -2 - 1 - 8 * 11);
+        rule("say 1 if 1<=", -2 - 1 - 8 * 12);
+        rule("say 1 if 1>=", -2 - 1 - 8 * 12);
+        rule("say 1 if 1>= ", -2 - 1 - 8 * 13);
         rule("say 1 if [1<1", -2 - 1 - 8 * 13);
     }
 

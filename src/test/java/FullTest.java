@@ -7,7 +7,7 @@ final class FullTest {
             + "path 2 3 2;path 3 4 1;path 4 5 1;path 0 5 2;path 0 2 6;path 1 3 2;path 2 4 1;path 1 5 2;turn 0 1;turn 7 2;"
             + "turn 6 3;turn 5 3;turn 4 4;turn 3 99;turn 2 50;turn 1 2";
 
-    private final TruthBridge bridge = new TruthBridge();
+    private final Story story = new Story();
     private final Model model = new Model();
     private final Random random = new Random(7);
 
@@ -16,40 +16,24 @@ final class FullTest {
         Check.finish("FullTest");
     }
 
-    private void feed(String text) {
-        byte[] bytes = new byte[(text.length() + 19) / 20 * 20];
-        for (int i = 0; i < text.length(); i++) {
-            bytes[i] = (byte) text.charAt(i);
-        }
-        for (int i = 0; i < bytes.length; i += 20) {
-            int[] n = new int[5];
-            for (int k = 0; k < 5; k++) {
-                n[k] = Check.four(bytes, i + 4 * k);
-            }
-            Check.due("feed", bridge.feed(n[0], n[1], n[2], n[3], n[4]), model.feed(n[0], n[1], n[2], n[3], n[4]));
-        }
-        Check.due("end", bridge.end(text.length()), model.end(text.length()));
-    }
-
     private void play() {
-        feed(LAND);
-        Check.due("land", bridge.land(), 6);
-        model.land();
+        model.tape(LAND);
+        story.land(LAND, model.land());
         for (int i = 0; i < 24; i++) {
-            feed(saying(i));
-            Check.due("saying", bridge.saying(), i);
-            model.saying();
+            model.tape(saying(i));
+            story.saying(saying(i), model.saying());
         }
         for (int i = 0; i < 6; i++) {
-            feed("say gain*knows+" + i + " if weight<=gain" + " and [day%3=0 or here>left or price+side=saying]".repeat(3)
-                    + ";say saying if person=" + i + ";say 0 if not not not not left-left=0;say 1 if day=" + i);
-            Check.due("rule", bridge.rule(), i);
-            model.rule();
+            String rule = "say gain*knows+" + i + " if weight<=gain"
+                    + " and [day%3=0 or here>left or price+side=saying]".repeat(3) + ";say saying if person=" + i
+                    + ";say 0 if not not not not left-left=0;say 1 if day=" + i;
+            model.tape(rule);
+            story.rule(rule, model.rule());
         }
         for (int i = 0; i < 10; i++) {
             int saying = i < 4 ? 8 + i : random.nextInt(24);
             boolean fell = model.follows(0x35, saying) == 1;
-            Check.due("trial", bridge.trial(saying, fell), model.trial(saying, fell));
+            story.due("trial", b -> b.trial(saying, fell), model.trial(saying, fell));
         }
         for (int round = 0; round < 12; round++) {
             askAll();
@@ -64,49 +48,54 @@ final class FullTest {
     }
 
     private void act(int round) {
-        for (int p = 0; p < 6; p++) {
+        for (int person = 0; person < 6; person++) {
+            int p = person;
             int s = random.nextInt(24);
-            Check.due("cross", bridge.cross(p, s), model.cross(p, s));
-            Check.due("look", bridge.look(p, round % 6), model.look(p, round % 6));
+            story.due("cross", b -> b.cross(p, s), model.cross(p, s));
+            story.due("look", b -> b.look(p, round % 6), model.look(p, round % 6));
             int other = random.nextInt(6);
-            Check.due("tell", bridge.tell(p, other, s), model.tell(p, other, s));
+            story.due("tell", b -> b.tell(p, other, s), model.tell(p, other, s));
         }
-        Check.due("image", bridge.image(round % 4), model.image(round % 4));
-        Check.due("midnight", bridge.midnight(), model.midnight());
+        story.due("image", b -> b.image(round % 4), model.image(round % 4));
+        story.due("midnight", b -> b.midnight(), model.midnight());
         if (round % 3 == 2) {
             int days = round == 8 ? 60 : 2;
-            Check.due("run", bridge.run(round / 2, days), model.run(round / 2, days));
-            Check.due("back", bridge.back((round + 1) % 4), model.back((round + 1) % 4));
-            Check.due("undo", bridge.undo(), model.undo());
+            story.due("run", b -> b.run(round / 2, days), model.run(round / 2, days));
+            story.due("back", b -> b.back((round + 1) % 4), model.back((round + 1) % 4));
+            story.due("undo", b -> b.undo(), model.undo());
         }
     }
 
     private void askAll() {
-        for (int i = -1; i <= 14; i++) {
-            Check.due("count(" + i + ")", bridge.count(i), model.count(i));
-            Check.due("sets(" + i + ")", bridge.sets(i), model.sets(i));
-            Check.due("next(" + i + ")", bridge.next(i), model.next(i));
-            Check.due("years(10, 60, " + i + ")", bridge.years(10, 60, i), model.years(10, 60, i));
-            for (int p = -1; p <= 6; p++) {
-                Check.due("person(" + p + ", " + i + ")", bridge.person(p, i), model.person(p, i));
-                Check.due("least(" + p + ", " + i + ")", bridge.least(p, i), model.least(p, i));
-                Check.due("walk(" + p + ", " + i + ")", bridge.walk(p, i), model.walk(p, i));
-                Check.due("bought(" + p + ", " + i + ")", bridge.bought(p, i), model.bought(p, i));
-                Check.due("plan(" + p + ", " + i + ")", bridge.plan(p, i), model.plan(p, i));
-                Check.due("way(" + p + ", " + i + ")", bridge.way(p, i), model.way(p, i));
+        for (int what = -1; what <= 14; what++) {
+            int i = what;
+            story.asked("count(" + i + ")", b -> b.count(i), model.count(i));
+            story.asked("sets(" + i + ")", b -> b.sets(i), model.sets(i));
+            story.asked("next(" + i + ")", b -> b.next(i), model.next(i));
+            story.asked("years(10, 60, " + i + ")", b -> b.years(10, 60, i), model.years(10, 60, i));
+            for (int person = -1; person <= 6; person++) {
+                int p = person;
+                story.asked("person(" + p + ", " + i + ")", b -> b.person(p, i), model.person(p, i));
+                story.asked("least(" + p + ", " + i + ")", b -> b.least(p, i), model.least(p, i));
+                story.asked("walk(" + p + ", " + i + ")", b -> b.walk(p, i), model.walk(p, i));
+                story.asked("bought(" + p + ", " + i + ")", b -> b.bought(p, i), model.bought(p, i));
+                story.asked("plan(" + p + ", " + i + ")", b -> b.plan(p, i), model.plan(p, i));
+                story.asked("way(" + p + ", " + i + ")", b -> b.way(p, i), model.way(p, i));
             }
         }
-        for (int s = -1; s <= 24; s++) {
-            Check.due("isTrue(" + s + ")", bridge.isTrue(s), model.isTrue(s));
-            Check.due("gain(" + s + ")", bridge.gain(s), model.gain(s));
-            Check.due("shown(" + s + ")", bridge.shown(s), model.shown(s));
-            Check.due("when(" + s + ", 1)", bridge.when(s, 1), model.when(s, 1));
-            Check.due("follows(all, " + s + ")", bridge.follows(0xFFFFFF, s), model.follows(0xFFFFFF, s));
-            Check.due("fewest(0xF0F0F0, " + s + ")", bridge.fewest(0xF0F0F0, s), model.fewest(0xF0F0F0, s));
-            Check.due("fewest(0xFFF, " + s + ")", bridge.fewest(0xFFF, s), model.fewest(0xFFF, s));
-            for (int p = -1; p <= 6; p++) {
-                Check.due("knows(" + p + ", " + s + ")", bridge.knows(p, s), model.knows(p, s));
-                Check.due("opposite(" + p + ", " + s + ")", bridge.opposite(p, s), model.opposite(p, s));
+        for (int saying = -1; saying <= 24; saying++) {
+            int s = saying;
+            story.asked("isTrue(" + s + ")", b -> b.isTrue(s), model.isTrue(s));
+            story.asked("gain(" + s + ")", b -> b.gain(s), model.gain(s));
+            story.asked("shown(" + s + ")", b -> b.shown(s), model.shown(s));
+            story.asked("when(" + s + ", 1)", b -> b.when(s, 1), model.when(s, 1));
+            story.asked("follows(all, " + s + ")", b -> b.follows(0xFFFFFF, s), model.follows(0xFFFFFF, s));
+            story.asked("fewest(0xF0F0F0, " + s + ")", b -> b.fewest(0xF0F0F0, s), model.fewest(0xF0F0F0, s));
+            story.asked("fewest(0xFFF, " + s + ")", b -> b.fewest(0xFFF, s), model.fewest(0xFFF, s));
+            for (int person = -1; person <= 6; person++) {
+                int p = person;
+                story.asked("knows(" + p + ", " + s + ")", b -> b.knows(p, s), model.knows(p, s));
+                story.asked("opposite(" + p + ", " + s + ")", b -> b.opposite(p, s), model.opposite(p, s));
             }
         }
     }

@@ -63,10 +63,7 @@ final class LandEdgeTest {
         wrong(FULL + " ".repeat(more - 1) + ";", 400, 0);
         wrong(FULL + " ".repeat(more - 1) + ".", 399, 0);
         Story story = new Story();
-        story.due("a text of 400 bytes", b -> {
-            Check.feed(b, FULL + " ".repeat(more));
-            return b.count(13);
-        }, 400);
+        story.tape(FULL + " ".repeat(more));
         story.idle("no byte comes behind them", b -> b.feed(0x20202020, 0, 0, 0, 0), -1);
         story.due("it is read nevertheless", TruthBridge::land, 6);
     }

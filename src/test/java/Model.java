@@ -562,6 +562,14 @@ final class Model {
         return false;
     }
 
+    /** The TAPE is just this text then. */
+    void tape(String text) {
+        tape.clear();
+        for (char c : text.toCharArray()) {
+            tape.add((int) c);
+        }
+    }
+
     // ---- the face
 
     int feed(int a, int b, int c, int d, int e) {

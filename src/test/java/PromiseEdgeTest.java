@@ -216,6 +216,9 @@ final class PromiseEdgeTest {
         Story story = new Story("facts 1 1" + ";place 0".repeat(6) + ";path 0 1 9;path 1 2 9;path 2 3 9;path 3 4 9;path 4 5 9");
         row(story, "way(0, .)", (b, k) -> b.way(0, k), -1, 0, 9, 18, 27, 36, 45);
         row(story, "way(., 0)", (b, k) -> b.way(k, 0), -1, 0, 9, 18, 27, 36, 45);
+        Story around = new Story("facts 1 1;place 0;place 0;place 0;place 0;path 0 1 4;path 0 2 5;path 1 2 9;path 3 0 1");
+        row(around, "way(1, .)", (b, k) -> b.way(1, k), -1, 4, 0, 9, 5);
+        row(around, "way(2, .)", (b, k) -> b.way(2, k), -1, 5, 9, 0, 6);
         Story shorter = new Story("facts 1 1" + ";place 0".repeat(6) + ";path 5 0 1;path 0 1 9;path 1 2 9;path 2 3 9;path 3 4 9;"
                 + "path 4 5 9;path 1 0 8;path 0 1 9");
         row(shorter, "way(0, .)", (b, k) -> b.way(0, k), -1, 0, 8, 17, 19, 10, 1);

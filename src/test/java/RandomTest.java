@@ -2,6 +2,7 @@ import java.util.Random;
 
 /** Runs drawn at random (by numbers that are always the same): the class against the Model. */
 final class RandomTest {
+    private static final int MOST_CALLS = 512;
     private static int[] kinds = new int[60];
     private static int[] good = new int[60];
     private static int[] plans = new int[5];
@@ -11,6 +12,7 @@ final class RandomTest {
     private final TruthBridge bridge = new TruthBridge();
     private final Model model = new Model();
     private final int run;
+    private int made;
     private final StringBuilder log = new StringBuilder();
 
     private RandomTest(int run) {
@@ -20,7 +22,7 @@ final class RandomTest {
     }
 
     public static void main(String[] args) {
-        int runs = args.length > 0 ? Integer.parseInt(args[0]) : 400;
+        int runs = args.length > 0 ? Integer.parseInt(args[0]) : 1000;
         int from = args.length > 1 ? Integer.parseInt(args[1]) : 0;
         for (int i = from; i < from + runs; i++) {
             new RandomTest(i).play();
@@ -37,7 +39,7 @@ final class RandomTest {
     }
 
     private void play() {
-        for (int i = 0; i < 400; i++) {
+        for (int i = 0; made < MOST_CALLS; i++) {
             if (i == 10) {
                 everything();
             }
@@ -83,7 +85,12 @@ final class RandomTest {
         return set;
     }
 
+    /** What comes behind the last call is free. */
     private int check(String call, int got, int want) {
+        made++;
+        if (made > MOST_CALLS) {
+            return want;
+        }
         if (got != want) {
             System.out.println(log);
         }

@@ -59,12 +59,8 @@ final class RuleEdgeTest {
         right("say 1" + " ".repeat(395));
         wrong("say 1" + " ".repeat(394) + ";", 400, 0);
         wrong("say 1" + " ".repeat(394) + "!", 399, 0);
-        String text = "say " + " ".repeat(390) + "weight";
         Story story = rules();
-        story.due("a text of 400 bytes", b -> {
-            Check.feed(b, text);
-            return b.count(13);
-        }, 400);
+        story.tape("say " + " ".repeat(390) + "weight");
         story.idle("no byte comes behind them", b -> b.feed(0, 0, 0, 0, 0), -1);
         story.due("it is read nevertheless", TruthBridge::rule, 0);
     }
@@ -284,6 +280,9 @@ final class RuleEdgeTest {
         fails("[1=1 or 1=2] and 1=2");
         holds("1=2 and 1=2 or 1=1");
         fails("1=2 or 1=2 or 1=2");
+        holds("1=1 or 1=1");
+        holds("1=1 or 1=1 or 1=1");
+        fails("[1=1 or 1=1] and [1=2 or 1=2]");
         holds("1=2 or 1=2 or 1=1");
         fails("1=1 and 1=1 and 1=2");
         holds("not 1=2 and 1=1");
@@ -337,6 +336,15 @@ final class RuleEdgeTest {
         story.due("two others are here", b -> b.run(0, 1), 1);
     }
 
+    static void termRuleShorterThanTheOneAhead() {
+        Story story = rules("say 7;".repeat(11) + "say 7", "say 1 if 1=2", "say 0;say 1", "say 1 if 1=2;say 1 if 1=2;say 0");
+        for (int i = 1; i <= 3; i++) {
+            int r = i;
+            story.due("run by " + i, b -> b.run(r, 1), 0);
+        }
+        story.due("run by 0", b -> b.run(0, 1), 1);
+    }
+
     static void termRules0To5() {
         Story story = rules();
         for (int i = 0; i < 5; i++) {
@@ -346,16 +354,14 @@ final class RuleEdgeTest {
         story.wrongRule("say", 3, 0);
         story.rule("say weight", 5);
         story.idle("six", b -> b.count(7), 6);
+        story.idle("no other is there", b -> b.run(6, 1), -1);
         story.due("the last", b -> b.run(5, 1), 1);
     }
 
     static void promise6ASeventhRuleIsNone() {
         Story story = rules("say 1", "say 2", "say 3", "say 4", "say 5", "say 6");
         story.idle("with an empty TAPE", TruthBridge::rule, -1);
-        story.due("a text", b -> {
-            Check.feed(b, "b");
-            return b.count(13);
-        }, 1);
+        story.tape("b");
         story.idle("with a text", TruthBridge::rule, -1);
         story.idle("the TAPE stays", b -> b.count(13), 1);
         story.idle("six there are", b -> b.count(7), 6);

@@ -43,21 +43,17 @@ final class SayingEdgeTest {
         wrong(" ".repeat(398) + "a.", 399, 0);
         wrong(" ".repeat(396) + "a or", 400, 0);
         Story story = new Story(LAND);
-        story.due("a text of 400 bytes", b -> {
-            Check.feed(b, " ".repeat(399) + "a");
-            return b.count(13);
-        }, 400);
+        story.tape(" ".repeat(399) + "a");
         story.idle("no byte comes behind them", b -> b.feed(0, 0, 0, 0, 0), -1);
         story.due("it is read nevertheless", TruthBridge::saying, 0);
     }
 
     static void termSayingLettersAToH() {
         Story story = new Story("facts 8 0", "a", "b", "c", "d", "e", "f", "g", "h");
-        for (int s = 0; s < 8; s++) {
-            int fact = s;
-            for (int w : new int[] {0, 1 << s, 255 ^ 1 << s, 255}) {
-                story.idle("letter " + s + " in " + w, b -> b.so(fact, w), w >> s & 1);
-            }
+        for (int i = 0; i < 8 * 256; i++) {
+            int s = i / 256;
+            int w = i % 256;
+            story.asked("letter " + s + " in " + w, b -> b.so(s, w), w >> s & 1);
         }
         for (char c = 'i'; c <= 'z'; c++) {
             wrong("" + c, 0, 0);
@@ -207,10 +203,7 @@ final class SayingEdgeTest {
             story.saying("b", i);
         }
         story.idle("with an empty TAPE", TruthBridge::saying, -1);
-        story.due("a text", b -> {
-            Check.feed(b, "say day");
-            return b.count(13);
-        }, 7);
+        story.tape("say day");
         story.idle("with a right or a wrong text", TruthBridge::saying, -1);
         story.idle("the TAPE stays", b -> b.count(13), 7);
         story.idle("24 there are", b -> b.count(6), 24);

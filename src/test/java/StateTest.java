@@ -123,11 +123,7 @@ final class StateTest {
                 Check.due("so(" + s + ", " + w + ")", b.so(s, w), so[s]);
             }
         }
-        for (int w = 0; w < 256; w++) {
-            Check.due("so(2, " + w + ")", b.so(2, w), w >= 192 ? 1 : 0);
-            Check.due("so(5, " + w + ")", b.so(5, w), w >= 192 ? 0 : 1);
-            Check.due("so(0, " + w + ")", b.so(0, w), w >> 6 & 1);
-        }
+        eachOf256Worlds();
         Check.due("possible(0, 191)", b.possible(0, 191), 0);
         Check.due("possible(0, 192)", b.possible(0, 192), 1);
         Check.due("possible(1, 255)", b.possible(1, 255), 1);
@@ -135,6 +131,16 @@ final class StateTest {
         Check.due("possible(3, 192)", b.possible(3, 192), 1);
         Check.due("possible(3, 193)", b.possible(3, 193), 0);
         Check.due("possible(3, 256)", b.possible(3, 256), -2);
+    }
+
+    private static void eachOf256Worlds() {
+        Story story = new Story("facts 8 192", "g", "g and h", "not g or not h");
+        for (int i = 0; i < 256; i++) {
+            int w = i;
+            story.asked("so(0, " + w + ")", b -> b.so(0, w), w >> 6 & 1);
+            story.asked("so(1, " + w + ")", b -> b.so(1, w), w >= 192 ? 1 : 0);
+            story.asked("so(2, " + w + ")", b -> b.so(2, w), w >= 192 ? 0 : 1);
+        }
     }
 
     private static void landsOfEachSize() {

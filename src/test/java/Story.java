@@ -59,6 +59,17 @@ final class Story {
         return this;
     }
 
+    /** Asks another object, to which the same was told: there is no end to such questions. */
+    Story asked(String what, Call call, int want) {
+        Check.due(what, call.on(eyeFor(1)), want);
+        return this;
+    }
+
+    /** The TAPE is just this text then. */
+    Story tape(String text) {
+        return text("the TAPE of", text, b -> b.end(text.length()), text.length());
+    }
+
     Story land(String text, int want) {
         return text("land", text, TruthBridge::land, want);
     }
@@ -113,6 +124,7 @@ final class Story {
             Check.due(what + " comes as call", calls, MOST_CALLS);
         }
         told.add(call);
+        eye = null;
         Check.due(what, call.on(bridge), want);
     }
 
@@ -170,14 +182,19 @@ final class Story {
     }
 
     private int ask(Call call) {
-        if (eye == null || eyeCalls >= MOST_CALLS) {
+        int answer = call.on(eyeFor(1));
+        seen.add(answer);
+        return answer;
+    }
+
+    /** An object to which the same was told, and that can be asked so many times more. */
+    private TruthBridge eyeFor(int many) {
+        if (eye == null || eyeCalls + many > MOST_CALLS) {
             eye = again();
             eyeCalls = calls;
         }
-        eyeCalls++;
-        int answer = call.on(eye);
-        seen.add(answer);
-        return answer;
+        eyeCalls += many;
+        return eye;
     }
 
     /** Calls that belong together, on an object of their own. */
