@@ -39,14 +39,9 @@ final class ActEdgeTest {
 
     static void termKnownIfItIsSoInAllWorldsHeld() {
         Story story = new Story("facts 3 7;person 0 1 1 0;person 0 1 0 0", "a", "a or b or c", "a or not a", "not a");
-        int[] first = {1, 1, 1, 0};
-        int[] second = {0, 0, 1, 0};
-        for (int s = 0; s < 4; s++) {
-            int told = s;
-            story.idle("who knows a KNOWS", b -> b.knows(0, told), first[s]);
-            story.idle("in all WORLDS but one is not in all", b -> b.knows(1, told), second[s]);
-            story.idle("the bridge", b -> b.knows(-1, told), second[s]);
-        }
+        story.each("who knows a: knows(0, .)", (b, s) -> b.knows(0, s), 1, 1, 1, 0);
+        story.each("in all WORLDS but one is not in all: knows(1, .)", (b, s) -> b.knows(1, s), 0, 0, 1, 0);
+        story.each("the bridge: knows(-1, .)", (b, s) -> b.knows(-1, s), 0, 0, 1, 0);
     }
 
     /** WORLDS of three kinds alone are left: then what is so in one kind alone is not KNOWN. */
@@ -58,12 +53,8 @@ final class ActEdgeTest {
                 Story story = new Story("facts 8 " + facts + ";person 0 1 0 0", kinds[one] + " or " + kinds[other], "a",
                         kinds[one], kinds[other], "b or not b", "not a and [" + kinds[one] + " or " + kinds[other] + "]");
                 story.due("both kinds", b -> b.cross(0, 0), 3);
-                int[] known = {1, 0, 0, 0, 1, 0};
-                for (int s = 0; s < 6; s++) {
-                    int told = s;
-                    story.idle("KNOWN " + s, b -> b.knows(-1, told), known[s]);
-                    story.idle("FOLLOWS " + s, b -> b.follows(1, told), known[s]);
-                }
+                story.each("knows(-1, .)", (b, s) -> b.knows(-1, s), 1, 0, 0, 0, 1, 0);
+                story.each("follows(1, .)", (b, s) -> b.follows(1, s), 1, 0, 0, 0, 1, 0);
                 story.idle("a isn't OPPOSITE to both kinds", b -> b.opposite(0, 1), 0);
                 story.idle("nor to one", b -> b.opposite(1, 2), 0);
                 story.idle("a and not a are", b -> b.opposite(1, 5), 1);
@@ -74,13 +65,8 @@ final class ActEdgeTest {
 
     static void termGainFromNoWorldToAll() {
         Story story = new Story("facts 8 255", "a or not a", ANY, "a", ALL, "a and not a");
-        int[] gain = {0, 1, 128, 255, 256};
-        int[] shown = {-2, 0, 0, 0, 0};
-        for (int s = 0; s < 5; s++) {
-            int told = s;
-            story.idle("gain of " + s, b -> b.gain(told), gain[s]);
-            story.idle("shown of " + s, b -> b.shown(told), shown[s]);
-        }
+        story.row("gain", TruthBridge::gain, -1, 0, 1, 128, 255, 256);
+        story.row("shown", TruthBridge::shown, -1, -2, 0, 0, 0, 0);
     }
 
     /** One who weighs so much CROSSES by a SAYING whose GAIN is known. */
@@ -292,14 +278,7 @@ final class ActEdgeTest {
 
     private static Story onDay(int day, String land, String... sayings) {
         Story story = new Story(land, sayings);
-        story.rule("say 0", 0);
-        for (int i = 0; i < day / 60; i++) {
-            story.due("run", b -> b.run(0, 60), 0);
-        }
-        if (day % 60 > 0) {
-            story.due("run", b -> b.run(0, day % 60), 0);
-        }
-        return story.idle("DAY", b -> b.count(8), day);
+        return story.rule("say 0", 0).days(0, day).idle("DAY", b -> b.count(8), day);
     }
 
     static void termMidnightUpToDay9999() {
@@ -421,12 +400,8 @@ final class ActEdgeTest {
     }
 
     private static void asAtFirst(Story story) {
-        int[][] people = {{0, 1, 0, 0, 0, 2, 1}, {0, 1, 0, 0, 0, 4, 0}};
-        for (int i = 0; i < 14; i++) {
-            int p = i / 7;
-            int what = i % 7;
-            story.idle("person(" + p + ", " + what + ")", b -> b.person(p, what), people[p][what]);
-        }
+        story.each("person(0, .)", (b, w) -> b.person(0, w), 0, 1, 0, 0, 0, 2, 1);
+        story.each("person(1, .)", (b, w) -> b.person(1, w), 0, 1, 0, 0, 0, 4, 0);
         story.idle("DAY", b -> b.count(8), 0);
         story.idle("FACTS", b -> b.count(1), 3);
         story.idle("WORLDS of the bridge", b -> b.count(9), 4);

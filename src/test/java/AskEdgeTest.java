@@ -39,23 +39,11 @@ final class AskEdgeTest {
     static void termShownTheLeastWorld() {
         Story story = new Story("facts 8 255;person 0 1 0 0", "not [" + ALL + "]", ALL, "not h", "not g or not a", "h",
                 "a or not a", "h or " + ALL.substring(0, ALL.length() - 6), "not h or g");
-        int[] shown = {255, 0, 128, 65, 0, -2, 0, 128};
-        for (int s = 0; s < 8; s++) {
-            int told = s;
-            story.idle("shown(" + s + ")", b -> b.shown(told), shown[s]);
-        }
+        story.each("shown", TruthBridge::shown, 255, 0, 128, 65, 0, -2, 0, 128);
         story.due("h is told", b -> b.cross(0, 4), 3);
-        int[] then = {255, 128, 128, 193, -2, -2, -2, 128};
-        for (int s = 0; s < 8; s++) {
-            int told = s;
-            story.idle("then shown(" + s + ")", b -> b.shown(told), then[s]);
-        }
+        story.each("then shown", TruthBridge::shown, 255, 128, 128, 193, -2, -2, -2, 128);
         story.due("all is told", b -> b.cross(0, 1), 3);
-        int[] last = {255, -2, 255, 255, -2, -2, -2, -2};
-        for (int s = 0; s < 8; s++) {
-            int told = s;
-            story.idle("at last shown(" + s + ")", b -> b.shown(told), last[s]);
-        }
+        story.each("at last shown", TruthBridge::shown, 255, -2, 255, 255, -2, -2, -2, -2);
     }
 
     static void termShownInEachPartOfTheWorlds() {
@@ -72,21 +60,14 @@ final class AskEdgeTest {
 
     static void termFollowsFromNoSayings() {
         Story story = new Story("facts 2 0", "a", "a or not a", "not c", "c");
-        int[] follows = {0, 1, 1, 0};
-        for (int s = 0; s < 4; s++) {
-            int told = s;
-            story.idle(s + " from nothing", b -> b.follows(0, told), follows[s]);
-            story.idle("fewest of nothing for " + s, b -> b.fewest(0, told), follows[s] == 1 ? 0 : -2);
-        }
+        story.each("follows(0, .)", (b, s) -> b.follows(0, s), 0, 1, 1, 0);
+        story.each("fewest(0, .)", (b, s) -> b.fewest(0, s), -2, 0, 0, -2);
     }
 
     static void termFollowsFromWhatCannotBe() {
         Story story = new Story("facts 2 0", "a", "not a", "b", "c");
-        for (int s = 0; s < 4; s++) {
-            int told = s;
-            story.idle(s + " from a, not a", b -> b.follows(3, told), 1);
-            story.idle(s + " from c", b -> b.follows(8, told), 1);
-        }
+        story.each("from a, not a: follows(3, .)", (b, s) -> b.follows(3, s), 1, 1, 1, 1);
+        story.each("from c: follows(8, .)", (b, s) -> b.follows(8, s), 1, 1, 1, 1);
         story.idle("b from a alone", b -> b.follows(1, 2), 0);
         story.idle("fewest: c alone", b -> b.fewest(15, 2), 4);
         story.idle("fewest: both", b -> b.fewest(3, 2), 3);
@@ -195,10 +176,7 @@ final class AskEdgeTest {
     static void termWhenAlsoBeyondDay9999() {
         Story story = new Story("facts 1 1;person 0 1 0 0", "a", "not a");
         story.rule("say 0", 0);
-        for (int i = 0; i < 166; i++) {
-            story.due("run", b -> b.run(0, 60), 0);
-        }
-        story.due("run", b -> b.run(0, 39), 0);
+        story.days(0, 9999);
         story.idle("DAY", b -> b.count(8), 9999);
         story.idle("the last DAY", b -> b.when(0, 9999), 9999);
         story.idle("from now on", b -> b.when(0, 0), 9999);
@@ -239,6 +217,23 @@ final class AskEdgeTest {
             int[] least = {0, 4, 3, 2, 2, 1, 1, 0, -2};
             story.idle("of weight " + weight, b -> b.least(0, 0), least[weight]);
         }
+    }
+
+    static void termLeastWalkBoughtOf24Sayings() {
+        Story story = new Story("facts 2 3" + ";person 0 1 1 5".repeat(5) + ";person 0 1 0 5;place 1;place 0;path 0 1 2");
+        for (int i = 0; i < 23; i++) {
+            story.saying("b", i);
+        }
+        story.saying("a", 23);
+        story.idle("by the last", b -> b.least(0, 0), 23);
+        story.idle("nobody else behind that", b -> b.least(0, 1), 0);
+        story.idle("who KNOWS nothing", b -> b.least(5, 0), -2);
+        story.idle("sees b at the bridge", b -> b.walk(5, 1), 1);
+        story.idle("buys a", b -> b.bought(5, 0), 5);
+        story.idle("from 0", b -> b.bought(5, 1), 1);
+        story.due("by b", b -> b.cross(5, 22), 3);
+        story.idle("a lies two HOURS away", b -> b.walk(5, 0), 4);
+        story.idle("there", b -> b.walk(5, 1), 2);
     }
 
     static void termLeastOfSeveralTheLeast() {
@@ -330,26 +325,21 @@ final class AskEdgeTest {
     static void termPlanTheMostAndOfThoseTheFirst() {
         Story story = new Story("facts 3 7;person 0 4 7 0;person 0 2 7 0;person 0 1 7 0", "a and b and c", "a and b", "a", "b",
                 "c");
-        int[] row = {3, 0, 2, 1, 1, 2, 0, -2, -2};
-        for (int what = 0; what <= 8; what++) {
-            int w = what;
-            story.idle("plan(0, " + what + ")", b -> b.plan(0, w), row[w]);
-        }
+        story.row("plan(0, .)", (b, w) -> b.plan(0, w), -1, 3, 0, 2, 1, 1, 2, 0, -2, -2);
         Story last = new Story("facts 2 3;person 0 1 3 0;person 0 2 1 0", "b", "a");
-        int[] other = {2, 1, 1, 0, 0, -2, -2, -2, -2};
-        for (int what = 0; what <= 8; what++) {
-            int w = what;
-            last.idle("plan(0, " + what + ")", b -> b.plan(0, w), other[w]);
-        }
+        last.row("plan(0, .)", (b, w) -> b.plan(0, w), -1, 2, 1, 1, 0, 0, -2, -2, -2, -2);
+    }
+
+    static void termPlanThatTheLastMustBegin() {
+        Story story = new Story("facts 3 7;person 0 1 2 0;person 0 1 5 0;person 0 4 1 0", "a", "c", "not a", "not a", "not a",
+                "not a", "not a", "b");
+        story.row("plan(0, .)", (b, w) -> b.plan(0, w), -1, 3, 2, 0, 0, 7, 1, 1, -2, -2);
     }
 
     static void termPlanOfNobody() {
         Story story = new Story("facts 1 1;person 0 1 0 0", "a");
-        for (int what = 0; what <= 8; what++) {
-            int w = what;
-            story.idle("nobody is there", b -> b.plan(1, w), w == 0 ? 0 : -2);
-            story.idle("who KNOWS nothing", b -> b.plan(0, w), w == 0 ? 0 : -2);
-        }
+        story.row("nobody is there: plan(1, .)", (b, w) -> b.plan(1, w), -1, 0, -2, -2, -2, -2, -2, -2, -2, -2);
+        story.row("who KNOWS nothing: plan(0, .)", (b, w) -> b.plan(0, w), -1, 0, -2, -2, -2, -2, -2, -2, -2, -2);
         new Story("facts 1 1;person 0 1 1 0").idle("without SAYINGS", b -> b.plan(0, 0), 0);
     }
 
@@ -500,12 +490,8 @@ final class AskEdgeTest {
         story.idle("is in all", b -> b.sets(1), 0xF9);
         story.idle("the others in none", b -> b.sets(2), 0x06);
         story.due("by a one FELL not", b -> b.trial(0, false), 7);
-        for (int what = 0; what < 3; what++) {
-            int w = what;
-            story.idle("no SET", b -> b.sets(w), 0);
-        }
-        story.idle("nothing to say next", b -> b.next(0), -2);
-        story.idle("nor how many", b -> b.next(1), -2);
+        story.each("no SET: sets", TruthBridge::sets, 0, 0, 0);
+        story.each("nothing to say: next", TruthBridge::next, -2, -2);
     }
 
     static void termTrials0To9() {
@@ -517,6 +503,8 @@ final class AskEdgeTest {
         story.due("the tenth", b -> b.trial(1, false), 10);
         story.idle("it counts", b -> b.sets(2), 2);
         story.idle("an 11th", b -> b.trial(1, true), -2);
+        story.due("image", b -> b.image(0), 0);
+        story.due("back", b -> b.back(0), 0);
         story.idle("ten", b -> b.count(10), 10);
         story.idle("one SET", b -> b.sets(0), 1);
         story.due("none", b -> b.trial(-1, true), 0);
@@ -631,13 +619,12 @@ final class AskEdgeTest {
         story.due("cross", b -> b.cross(0, 0), 3);
         story.due("falls", b -> b.cross(1, 0), 1);
         story.due("seed", b -> b.seed(1), 0);
-        int[][] want = {{0, 1, 2}, {1, 2, 1}, {1, 4, 2}};
+        int[][] one = {{0, 1, 2}, {1, 2, 1}, {1, 4, 2}};
         int[][] ten = {{5, 5, 15}, {10, 20, 10}, {10, 40, 20}};
-        for (int i = 0; i < 9; i++) {
-            int n = i / 3 + 1;
-            int w = i % 3;
-            story.idle("years(1, " + n + ", " + w + ")", b -> b.years(1, n, w), want[n - 1][w]);
-            story.idle("years(10, " + n + ", " + w + ")", b -> b.years(10, n, w), ten[n - 1][w]);
+        for (int days = 1; days <= 3; days++) {
+            int n = days;
+            story.each("years(1, " + n + ", .)", (b, w) -> b.years(1, n, w), one[n - 1]);
+            story.each("years(10, " + n + ", .)", (b, w) -> b.years(10, n, w), ten[n - 1]);
         }
         story.idle("x stays", b -> b.count(12), 1);
         story.idle("DAY", b -> b.count(8), 0);
@@ -646,17 +633,10 @@ final class AskEdgeTest {
     static void termYearsWithoutSayingsOrPeople() {
         Story story = new Story("facts 2 3;person 0 1 0 0;turn 0 1");
         story.due("seed", b -> b.seed(9), 0);
-        int[] silent = {0, 0, 40};
-        for (int what = 0; what < 3; what++) {
-            int w = what;
-            story.idle("without SAYINGS", b -> b.years(10, 60, w), silent[w]);
-        }
+        story.each("without SAYINGS: years(10, 60, .)", (b, w) -> b.years(10, 60, w), 0, 0, 40);
         story.idle("x as it was", b -> b.count(12), 9);
         Story nobody = new Story("facts 2 3", "a");
-        for (int what = 0; what < 3; what++) {
-            int w = what;
-            nobody.idle("without PEOPLE", b -> b.years(10, 60, w), silent[w]);
-        }
+        nobody.each("without PEOPLE: years(10, 60, .)", (b, w) -> b.years(10, 60, w), 0, 0, 40);
     }
 
     static void termImages0To3() {
@@ -747,12 +727,8 @@ final class AskEdgeTest {
         story.due("look", b -> b.look(1, 1), 1);
         story.land("facts 1 1;person 0 1 0 0;person 0 1 0 0", 2);
         story.due("back", b -> b.back(0), 0);
-        int[][] people = {{0, 1, 0, 4, 1, 2, 1}, {1, 1, 0, 0, 0, 2, 1}};
-        for (int i = 0; i < 14; i++) {
-            int p = i / 7;
-            int what = i % 7;
-            story.idle("person(" + p + ", " + what + ")", b -> b.person(p, what), people[p][what]);
-        }
+        story.each("person(0, .)", (b, w) -> b.person(0, w), 0, 1, 0, 4, 1, 2, 1);
+        story.each("person(1, .)", (b, w) -> b.person(1, w), 1, 1, 0, 0, 0, 2, 1);
         story.idle("WORLDS of the bridge", b -> b.count(9), 2);
     }
 
@@ -765,11 +741,7 @@ final class AskEdgeTest {
         story.due("seed", b -> b.seed(8), 7);
         story.land("facts 3 0;person 1 1 0 0;person 1 1 0 0;place 0", 2);
         story.due("back", b -> b.back(3), 0);
-        int[] want = {2, 3, 1, 0, 0, 0, 2, 0, 0, 4, 1, 0, 7, 0};
-        for (int what = 0; what < 14; what++) {
-            int w = what;
-            story.idle("count(" + what + ")", b -> b.count(w), want[w]);
-        }
+        story.row("count", TruthBridge::count, -1, 2, 3, 1, 0, 0, 0, 2, 0, 0, 4, 1, 0, 7, 0);
         story.idle("the TRIAL", b -> b.sets(1), 1);
         story.idle("SIDE", b -> b.person(0, 0), 0);
     }

@@ -158,6 +158,20 @@ final class FaultEdgeTest {
         land("facts 1 999999", Check.fault(8, 1));
     }
 
+    static void termFaultIn400SignsOfOneByteEach() {
+        for (char c : new char[] {';', '=', '<', '>', ']', '\u00ff', '\u0000'}) {
+            String text = ("" + c).repeat(400);
+            land(text, Check.fault(0, 0));
+            saying(text, Check.fault(0, 0));
+            rule(text, Check.fault(0, 0));
+            land("facts 1 0" + text.substring(9), Check.fault(c == ';' ? 10 : 9, 0));
+            saying("a" + text.substring(1), Check.fault(1, 0));
+            rule("say 1" + text.substring(5), Check.fault(c == ';' ? 6 : 5, 0));
+        }
+        saying("[".repeat(400), Check.fault(10, 2));
+        rule("say1if" + "[".repeat(394), Check.fault(16, 2));
+    }
+
     static void termFault1ANumberWhereItCannotStand() {
         land("1", Check.fault(0, 0));
         land("1234567", Check.fault(0, 0));

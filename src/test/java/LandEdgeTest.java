@@ -79,11 +79,7 @@ final class LandEdgeTest {
 
     static void termLandClausesUpToAllOfEachKind() {
         Story story = new Story(FULL);
-        int[] many = {8, 170, 6, 6, 10, 8, 0, 0, 0, 256, 0, 0, 0, 0};
-        for (int what = 0; what < many.length; what++) {
-            int w = what;
-            story.idle("count(" + w + ")", b -> b.count(w), many[w]);
-        }
+        story.row("count", TruthBridge::count, -1, 8, 170, 6, 6, 10, 8, 0, 0, 0, 256, 0, 0, 0, 0);
         String most = FULL.replace("person 0 1 0 0", "person0 1 0 0");
         for (String clause : new String[] {"person 0 1 0 0", "place 0", "path 0 1 1", "turn 0 1", "facts 8 0"}) {
             wrong(most + ";" + clause, most.length() + 1, 4);
@@ -239,22 +235,14 @@ final class LandEdgeTest {
         most("person 0 1 0 0", 2, 6);
         Story story = new Story("facts 1 0;person 0 1 0 9;person 0 2 0 8;person 0 3 0 7;person 0 4 0 6;person 0 5 0 5;"
                 + "person 0 6 0 4");
-        for (int p = 0; p < 6; p++) {
-            int who = p;
-            story.idle("weight of " + p, b -> b.person(who, 1), p + 1);
-            story.idle("price of " + p, b -> b.person(who, 2), 9 - p);
-        }
-        story.idle("a seventh", b -> b.person(6, 1), -1);
+        story.row("weight", (b, p) -> b.person(p, 1), -1, 1, 2, 3, 4, 5, 6);
+        story.row("price", (b, p) -> b.person(p, 2), -1, 9, 8, 7, 6, 5, 4);
     }
 
     static void termLandPlaces0To5() {
         most("place 0", 3, 6);
         Story story = new Story("facts 6 0;place 5;place 4;place 3;place 2;place 1;place 0");
-        for (int p = 0; p < 6; p++) {
-            int k = p;
-            story.idle("place " + p, b -> b.place(k), 5 - p);
-        }
-        story.idle("a seventh", b -> b.place(6), -1);
+        story.row("place", TruthBridge::place, -1, 5, 4, 3, 2, 1, 0);
     }
 
     static void termLandPaths0To9() {

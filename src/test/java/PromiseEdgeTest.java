@@ -20,30 +20,9 @@ final class PromiseEdgeTest {
         return story.saying("a", 0).saying("not a", 1).rule("say 1", 0);
     }
 
-    private interface Of {
-        int on(TruthBridge bridge, int value);
-    }
-
-    /** Each of these values is answered by the same. */
-    private static void all(Story story, String what, Of call, int want, int... values) {
-        for (int value : values) {
-            story.idle(what + " of " + value, b -> call.on(b, value), want);
-        }
-    }
-
-    /** The values from 0 on are answered by a row; those just outside of it and far from it by another answer. */
-    private static void row(Story story, String what, Of call, int other, int... want) {
-        for (int i = 0; i < want.length; i++) {
-            int value = i;
-            story.idle(what + " of " + i, b -> call.on(b, value), want[i]);
-        }
-        int many = want.length;
-        all(story, what, call, other, LEAST, -2, -1, many, many + 1, 1 << 16, GREATEST);
-    }
-
     static void promise1ANewObjectHasNothing() {
         Story story = new Story();
-        row(story, "count", TruthBridge::count, -1, 0, 0, 0, 0, 0, 0, 0, 0, 0, -1, 0, 0, 0, 0);
+        story.row("count", TruthBridge::count, -1, 0, 0, 0, 0, 0, 0, 0, 0, 0, -1, 0, 0, 0, 0);
         story.idle("no TAPE", b -> b.end(1), -1);
         story.idle("end of nothing", b -> b.end(0), 0);
     }
@@ -97,10 +76,10 @@ final class PromiseEdgeTest {
 
     static void promise3EndUpToTheTape() {
         Story story = new Story();
-        all(story, "end of nothing", TruthBridge::end, -1, LEAST, -1, 1, 20, 400, GREATEST);
+        story.all("end of nothing", TruthBridge::end, -1, LEAST, -1, 1, 20, 400, GREATEST);
         story.idle("end(0) of nothing", b -> b.end(0), 0);
         story.due("feed", b -> b.feed(0x61206f72, 0x20622020, 0, 0, 0), 20);
-        all(story, "end of 20", TruthBridge::end, -1, LEAST, -2, -1, 21, 22, 400, GREATEST);
+        story.all("end of 20", TruthBridge::end, -1, LEAST, -2, -1, 21, 22, 400, GREATEST);
         story.idle("all of them", b -> b.end(20), 20);
         story.due("all but one", b -> b.end(19), 19);
         story.idle("20 there are no more", b -> b.end(20), -1);
@@ -128,14 +107,14 @@ final class PromiseEdgeTest {
         story.due("seed", b -> b.seed(99), 0);
         story.due("image", b -> b.image(0), 1);
         story.land("facts 1 0", 0);
-        row(story, "count", TruthBridge::count, -1, 1, 0, 0, 0, 0, 0, 5, 1, 0, 2, 0, 0, 99, 0);
+        story.row("count", TruthBridge::count, -1, 1, 0, 0, 0, 0, 0, 5, 1, 0, 2, 0, 0, 99, 0);
         story.idle("nothing to be UNDONE", TruthBridge::undo, -2);
         story.idle("no PERSON", b -> b.person(0, 0), -1);
         story.idle("no PLACE", b -> b.place(0), -1);
         story.idle("no way", b -> b.way(0, 0), -1);
         story.idle("no TURN", b -> b.when(0, 0), -2);
         story.due("the IMAGE stays", b -> b.back(0), 1);
-        row(story, "then count", TruthBridge::count, -1, 3, 5, 3, 3, 1, 1, 5, 1, 1, 4, 1, 2, 99, 0);
+        story.row("then count", TruthBridge::count, -1, 3, 5, 3, 3, 1, 1, 5, 1, 1, 4, 1, 2, 99, 0);
         story.due("and what can be UNDONE", TruthBridge::undo, 1);
         story.due("and that", TruthBridge::undo, 0);
         story.idle("nobody crossed", b -> b.person(1, 0), 1);
@@ -164,14 +143,14 @@ final class PromiseEdgeTest {
 
     static void promise7PersonOfThoseThereAre() {
         Story story = whole();
-        row(story, "person(0, .)", (b, w) -> b.person(0, w), -1, 0, 2, 7, 0, 0, 2, 5);
-        row(story, "person(1, .)", (b, w) -> b.person(1, w), -1, 1, 1, 0, 0, 0, 4, 2);
-        row(story, "person(2, .)", (b, w) -> b.person(2, w), -1, 0, 1, 99, 0, 0, 8, 0);
+        story.row("person(0, .)", (b, w) -> b.person(0, w), -1, 0, 2, 7, 0, 0, 2, 5);
+        story.row("person(1, .)", (b, w) -> b.person(1, w), -1, 1, 1, 0, 0, 0, 4, 2);
+        story.row("person(2, .)", (b, w) -> b.person(2, w), -1, 0, 1, 99, 0, 0, 8, 0);
         for (int what = -1; what <= 7; what++) {
             int w = what;
-            all(story, "person(., " + what + ")", (b, p) -> b.person(p, w), -1, LEAST, -2, -1, 3, 6, GREATEST);
+            story.all("person(., " + what + ")", (b, p) -> b.person(p, w), -1, LEAST, -2, -1, 3, 6, GREATEST);
         }
-        all(landless(), "without a LAND", (b, p) -> b.person(p, 0), -1, -1, 0, 1);
+        landless().all("without a LAND", (b, p) -> b.person(p, 0), -1, -1, 0, 1);
     }
 
     static void promise7PersonWhatHasHappened() {
@@ -179,114 +158,114 @@ final class PromiseEdgeTest {
         story.due("look", b -> b.look(0, 1), 1);
         story.due("look", b -> b.look(0, 0), 0);
         story.due("falls", b -> b.cross(0, 4), 0);
-        row(story, "person(0, .)", (b, w) -> b.person(0, w), -1, 0, 2, 7, 6, 1, 1, 7);
+        story.row("person(0, .)", (b, w) -> b.person(0, w), -1, 0, 2, 7, 6, 1, 1, 7);
         story.due("tells itself over", b -> b.cross(1, 1), 3);
-        row(story, "person(1, .)", (b, w) -> b.person(1, w), -1, 0, 1, 0, 0, 0, 4, 2);
+        story.row("person(1, .)", (b, w) -> b.person(1, w), -1, 0, 1, 0, 0, 0, 4, 2);
     }
 
     static void promise8FactOfTheLand() {
-        row(whole(), "fact", TruthBridge::fact, -1, 1, 0, 1);
-        row(new Story("facts 8 129"), "fact", TruthBridge::fact, -1, 1, 0, 0, 0, 0, 0, 0, 1);
-        row(new Story("facts 1 0"), "fact", TruthBridge::fact, -1, 0);
-        all(new Story("facts 8 255"), "fact", TruthBridge::fact, -1, 8, 31, 32, 33, 39);
-        row(landless(), "fact", TruthBridge::fact, -1);
+        whole().row("fact", TruthBridge::fact, -1, 1, 0, 1);
+        new Story("facts 8 129").row("fact", TruthBridge::fact, -1, 1, 0, 0, 0, 0, 0, 0, 1);
+        new Story("facts 1 0").row("fact", TruthBridge::fact, -1, 0);
+        new Story("facts 8 255").all("fact", TruthBridge::fact, -1, 8, 31, 32, 33, 39);
+        landless().row("fact", TruthBridge::fact, -1);
     }
 
     static void promise9PlaceOfTheLand() {
-        row(whole(), "place", TruthBridge::place, -1, 1, 2, 0);
-        row(new Story("facts 1 1"), "place", TruthBridge::place, -1);
-        row(landless(), "place", TruthBridge::place, -1);
+        whole().row("place", TruthBridge::place, -1, 1, 2, 0);
+        new Story("facts 1 1").row("place", TruthBridge::place, -1);
+        landless().row("place", TruthBridge::place, -1);
     }
 
     static void promise10WayBetweenTwoPlaces() {
         Story story = whole();
-        row(story, "way(0, .)", (b, k) -> b.way(0, k), -1, 0, 3, -2);
-        row(story, "way(1, .)", (b, k) -> b.way(1, k), -1, 3, 0, -2);
-        row(story, "way(2, .)", (b, k) -> b.way(2, k), -1, -2, -2, 0);
-        row(story, "way(., 0)", (b, k) -> b.way(k, 0), -1, 0, 3, -2);
+        story.row("way(0, .)", (b, k) -> b.way(0, k), -1, 0, 3, -2);
+        story.row("way(1, .)", (b, k) -> b.way(1, k), -1, 3, 0, -2);
+        story.row("way(2, .)", (b, k) -> b.way(2, k), -1, -2, -2, 0);
+        story.row("way(., 0)", (b, k) -> b.way(k, 0), -1, 0, 3, -2);
         for (int k : new int[] {LEAST, -1, 3, GREATEST}) {
-            row(story, "way(" + k + ", .)", (b, i) -> b.way(k, i), -1);
+            story.row("way(" + k + ", .)", (b, i) -> b.way(k, i), -1);
         }
-        row(new Story("facts 1 1;place 0"), "way", (b, k) -> b.way(k, k), -1, 0);
-        row(new Story("facts 1 1"), "way", (b, k) -> b.way(k, k), -1);
-        row(landless(), "way", (b, k) -> b.way(k, k), -1);
+        new Story("facts 1 1;place 0").row("way", (b, k) -> b.way(k, k), -1, 0);
+        new Story("facts 1 1").row("way", (b, k) -> b.way(k, k), -1);
+        landless().row("way", (b, k) -> b.way(k, k), -1);
     }
 
     static void promise10WayTheLongest() {
         Story story = new Story("facts 1 1" + ";place 0".repeat(6) + ";path 0 1 9;path 1 2 9;path 2 3 9;path 3 4 9;path 4 5 9");
-        row(story, "way(0, .)", (b, k) -> b.way(0, k), -1, 0, 9, 18, 27, 36, 45);
-        row(story, "way(., 0)", (b, k) -> b.way(k, 0), -1, 0, 9, 18, 27, 36, 45);
+        story.row("way(0, .)", (b, k) -> b.way(0, k), -1, 0, 9, 18, 27, 36, 45);
+        story.row("way(., 0)", (b, k) -> b.way(k, 0), -1, 0, 9, 18, 27, 36, 45);
         Story around = new Story("facts 1 1;place 0;place 0;place 0;place 0;path 0 1 4;path 0 2 5;path 1 2 9;path 3 0 1");
-        row(around, "way(1, .)", (b, k) -> b.way(1, k), -1, 4, 0, 9, 5);
-        row(around, "way(2, .)", (b, k) -> b.way(2, k), -1, 5, 9, 0, 6);
+        around.row("way(1, .)", (b, k) -> b.way(1, k), -1, 4, 0, 9, 5);
+        around.row("way(2, .)", (b, k) -> b.way(2, k), -1, 5, 9, 0, 6);
         Story shorter = new Story("facts 1 1" + ";place 0".repeat(6) + ";path 5 0 1;path 0 1 9;path 1 2 9;path 2 3 9;path 3 4 9;"
                 + "path 4 5 9;path 1 0 8;path 0 1 9");
-        row(shorter, "way(0, .)", (b, k) -> b.way(0, k), -1, 0, 8, 17, 19, 10, 1);
+        shorter.row("way(0, .)", (b, k) -> b.way(0, k), -1, 0, 8, 17, 19, 10, 1);
     }
 
     static void promise11SoInAWorld() {
         Story story = whole();
-        row(story, "so(2, .)", (b, w) -> b.so(2, w), -1, 0, 0, 0, 0, 1, 1, 0, 0);
-        row(story, "so(., 5)", (b, s) -> b.so(s, 5), -1, 1, 1, 1, 1, 0);
-        all(story, "so(-1, .)", (b, w) -> b.so(-1, w), -1, -1, 0, 7, 8);
-        row(new Story("facts 1 0", "a"), "so(0, .)", (b, w) -> b.so(0, w), -1, 0, 1);
+        story.row("so(2, .)", (b, w) -> b.so(2, w), -1, 0, 0, 0, 0, 1, 1, 0, 0);
+        story.row("so(., 5)", (b, s) -> b.so(s, 5), -1, 1, 1, 1, 1, 0);
+        story.all("so(-1, .)", (b, w) -> b.so(-1, w), -1, -1, 0, 7, 8);
+        new Story("facts 1 0", "a").row("so(0, .)", (b, w) -> b.so(0, w), -1, 0, 1);
         Story eight = new Story("facts 8 0", "h");
-        all(eight, "so(0, .)", (b, w) -> b.so(0, w), 0, 0, 1, 127);
-        all(eight, "so(0, .)", (b, w) -> b.so(0, w), 1, 128, 254, 255);
-        all(eight, "so(0, .)", (b, w) -> b.so(0, w), -1, -1, 256, 257, 511, LEAST, GREATEST);
-        row(landless(), "without a LAND", (b, w) -> b.so(0, w), -1);
+        eight.all("so(0, .)", (b, w) -> b.so(0, w), 0, 0, 1, 127);
+        eight.all("so(0, .)", (b, w) -> b.so(0, w), 1, 128, 254, 255);
+        eight.all("so(0, .)", (b, w) -> b.so(0, w), -1, -1, 256, 257, 511, LEAST, GREATEST);
+        landless().row("without a LAND", (b, w) -> b.so(0, w), -1);
     }
 
     static void promise12IsTrueNow() {
         Story story = whole();
-        row(story, "isTrue", TruthBridge::isTrue, -1, 1, 1, 1, 1, 0);
+        story.row("isTrue", TruthBridge::isTrue, -1, 1, 1, 1, 1, 0);
         story.due("midnight", TruthBridge::midnight, 1);
         story.due("midnight", TruthBridge::midnight, 2);
-        row(story, "a has turned: isTrue", TruthBridge::isTrue, -1, 0, 1, 1, 0, 0);
-        row(landless(), "without a LAND", TruthBridge::isTrue, -1);
+        story.row("a has turned: isTrue", TruthBridge::isTrue, -1, 0, 1, 1, 0, 0);
+        landless().row("without a LAND", TruthBridge::isTrue, -1);
     }
 
     static void promise13KnowsOfAPersonOrTheBridge() {
         Story story = whole();
-        row(story, "knows(0, .)", (b, s) -> b.knows(0, s), -2, 1, 0, 0, 1, 0);
-        row(story, "knows(1, .)", (b, s) -> b.knows(1, s), -2, 0, 1, 0, 0, 0);
-        row(story, "knows(2, .)", (b, s) -> b.knows(2, s), -2, 0, 0, 0, 0, 0);
-        row(story, "knows(-1, .)", (b, s) -> b.knows(-1, s), -2, 0, 0, 0, 0, 0);
+        story.row("knows(0, .)", (b, s) -> b.knows(0, s), -2, 1, 0, 0, 1, 0);
+        story.row("knows(1, .)", (b, s) -> b.knows(1, s), -2, 0, 1, 0, 0, 0);
+        story.row("knows(2, .)", (b, s) -> b.knows(2, s), -2, 0, 0, 0, 0, 0);
+        story.row("knows(-1, .)", (b, s) -> b.knows(-1, s), -2, 0, 0, 0, 0, 0);
         for (int p : new int[] {LEAST, -2, 3, 6, GREATEST}) {
-            row(story, "knows(" + p + ", .)", (b, s) -> b.knows(p, s), -2);
+            story.row("knows(" + p + ", .)", (b, s) -> b.knows(p, s), -2);
         }
         story.due("the bridge is told a or b", b -> b.cross(0, 3), 3);
-        row(story, "then knows(-1, .)", (b, s) -> b.knows(-1, s), -2, 0, 0, 0, 1, 0);
-        row(landless(), "without a LAND", (b, s) -> b.knows(-1, s), -2);
+        story.row("then knows(-1, .)", (b, s) -> b.knows(-1, s), -2, 0, 0, 0, 1, 0);
+        landless().row("without a LAND", (b, s) -> b.knows(-1, s), -2);
     }
 
     static void promise14PossibleToAPersonOrTheBridge() {
         Story story = whole();
-        row(story, "possible(0, .)", (b, w) -> b.possible(0, w), -2, 0, 0, 0, 0, 0, 1, 0, 1);
-        row(story, "possible(1, .)", (b, w) -> b.possible(1, w), -2, 1, 1, 0, 0, 1, 1, 0, 0);
-        row(story, "possible(-1, .)", (b, w) -> b.possible(-1, w), -2, 1, 1, 1, 1, 1, 1, 1, 1);
+        story.row("possible(0, .)", (b, w) -> b.possible(0, w), -2, 0, 0, 0, 0, 0, 1, 0, 1);
+        story.row("possible(1, .)", (b, w) -> b.possible(1, w), -2, 1, 1, 0, 0, 1, 1, 0, 0);
+        story.row("possible(-1, .)", (b, w) -> b.possible(-1, w), -2, 1, 1, 1, 1, 1, 1, 1, 1);
         for (int p : new int[] {LEAST, -2, 3, 6, GREATEST}) {
-            row(story, "possible(" + p + ", .)", (b, w) -> b.possible(p, w), -2);
+            story.row("possible(" + p + ", .)", (b, w) -> b.possible(p, w), -2);
         }
         story.due("the bridge is told c and not b", b -> b.cross(2, 2), 3);
-        row(story, "then possible(-1, .)", (b, w) -> b.possible(-1, w), -2, 0, 0, 0, 0, 1, 1, 0, 0);
-        row(landless(), "without a LAND", (b, w) -> b.possible(-1, w), -2);
+        story.row("then possible(-1, .)", (b, w) -> b.possible(-1, w), -2, 0, 0, 0, 0, 1, 1, 0, 0);
+        landless().row("without a LAND", (b, w) -> b.possible(-1, w), -2);
     }
 
     static void promise15GainOfASaying() {
         Story story = whole();
-        row(story, "gain", TruthBridge::gain, -1, 4, 4, 6, 2, 4);
+        story.row("gain", TruthBridge::gain, -1, 4, 4, 6, 2, 4);
         story.due("the bridge is told c and not b", b -> b.cross(2, 2), 3);
-        row(story, "then gain", TruthBridge::gain, -1, 1, 0, 0, 1, 2);
-        row(landless(), "without a LAND", TruthBridge::gain, -1);
+        story.row("then gain", TruthBridge::gain, -1, 1, 0, 0, 1, 2);
+        landless().row("without a LAND", TruthBridge::gain, -1);
     }
 
     static void promise16ShownOfASaying() {
         Story story = whole();
-        row(story, "shown", TruthBridge::shown, -1, 0, 2, 0, 0, 0);
+        story.row("shown", TruthBridge::shown, -1, 0, 2, 0, 0, 0);
         story.due("the bridge is told c and not b", b -> b.cross(2, 2), 3);
-        row(story, "then shown", TruthBridge::shown, -1, 4, -2, -2, 4, 4);
-        row(landless(), "without a LAND", TruthBridge::shown, -1);
+        story.row("then shown", TruthBridge::shown, -1, 4, -2, -2, 4, 4);
+        landless().row("without a LAND", TruthBridge::shown, -1);
     }
 
     static void promise17CrossAnswers() {
@@ -301,30 +280,30 @@ final class PromiseEdgeTest {
         Story heavy = new Story("facts 2 3;person 0 4 0 0", "a and b");
         heavy.due("as far as the middle", b -> b.cross(0, 0), 2);
         heavy.due("it was KNOWN then", b -> b.cross(0, 0), 1);
-        all(landless(), "without a LAND", (b, s) -> b.cross(0, s), -1, -1, 0, 1);
-        row(new Story("facts 1 1", "a"), "without PEOPLE", (b, p) -> b.cross(p, 0), -1);
-        row(new Story("facts 1 1;person 0 1 0 0"), "without SAYINGS", (b, s) -> b.cross(0, s), -1);
+        landless().all("without a LAND", (b, s) -> b.cross(0, s), -1, -1, 0, 1);
+        new Story("facts 1 1", "a").row("without PEOPLE", (b, p) -> b.cross(p, 0), -1);
+        new Story("facts 1 1;person 0 1 0 0").row("without SAYINGS", (b, s) -> b.cross(0, s), -1);
     }
 
     static void promise18TellAnswers() {
         Story story = whole();
         story.due("a", b -> b.tell(0, 2, 0), 4);
         story.due("a or b follows", b -> b.tell(0, 2, 3), 4);
-        all(story, "what 0 does not KNOW", (b, s) -> b.tell(0, 2, s), -1, LEAST, -1, 1, 2, 4, 5, GREATEST);
-        all(story, "to another one", (b, p) -> b.tell(0, p, 0), -1, LEAST, -1, 0, 1, 3, GREATEST);
-        all(story, "from another one", (b, p) -> b.tell(p, 2, 0), -1, LEAST, -1, 1, 2, 3, GREATEST);
+        story.all("what 0 does not KNOW", (b, s) -> b.tell(0, 2, s), -1, LEAST, -1, 1, 2, 4, 5, GREATEST);
+        story.all("to another one", (b, p) -> b.tell(0, p, 0), -1, LEAST, -1, 0, 1, 3, GREATEST);
+        story.all("from another one", (b, p) -> b.tell(p, 2, 0), -1, LEAST, -1, 1, 2, 3, GREATEST);
         story.idle("ACTS", b -> b.count(11), 2);
-        all(landless(), "without a LAND", (b, p) -> b.tell(0, p, 0), -1, -1, 0, 1);
+        landless().all("without a LAND", (b, p) -> b.tell(0, p, 0), -1, -1, 0, 1);
     }
 
     static void promise19LookAnswers() {
         Story story = whole();
         story.due("b is not so", b -> b.look(2, 0), 0);
         story.due("c is so", b -> b.look(2, 1), 1);
-        all(story, "where there is no way", (b, k) -> b.look(2, k), -1, LEAST, -2, -1, 2, 3, 6, GREATEST);
-        all(story, "of nobody", (b, p) -> b.look(p, 0), -1, LEAST, -2, -1, 3, 6, GREATEST);
+        story.all("where there is no way", (b, k) -> b.look(2, k), -1, LEAST, -2, -1, 2, 3, 6, GREATEST);
+        story.all("of nobody", (b, p) -> b.look(p, 0), -1, LEAST, -2, -1, 3, 6, GREATEST);
         story.idle("ACTS", b -> b.count(11), 2);
-        all(landless(), "without a LAND", (b, k) -> b.look(0, k), -1, -1, 0, 1);
+        landless().all("without a LAND", (b, k) -> b.look(0, k), -1, -1, 0, 1);
     }
 
     static void promise20MidnightAnswers() {
@@ -350,13 +329,13 @@ final class PromiseEdgeTest {
 
     static void promise22RunAnswers() {
         Story story = whole();
-        all(story, "of a RULE that isn't there", (b, r) -> b.run(r, 1), -1, LEAST, -2, -1, 1, 2, 6, GREATEST);
-        all(story, "of so many DAYS", (b, n) -> b.run(0, n), -1, LEAST, -1, 0, 61, GREATEST);
+        story.all("of a RULE that isn't there", (b, r) -> b.run(r, 1), -1, LEAST, -2, -1, 1, 2, 6, GREATEST);
+        story.all("of so many DAYS", (b, n) -> b.run(0, n), -1, LEAST, -1, 0, 61, GREATEST);
         story.due("0 by a or b, 1 and 2 fall", b -> b.run(0, 1), 1);
         story.idle("0 is over", b -> b.person(0, 0), 1);
         story.due("all fall", b -> b.run(0, 1), 0);
         story.due("60 DAYS with the TURN: it is not so", b -> b.run(0, 60), 0);
-        all(landless(), "without a LAND", (b, n) -> b.run(0, n), -1, 0, 1, 60);
+        landless().all("without a LAND", (b, n) -> b.run(0, n), -1, 0, 1, 60);
     }
 
     static void promise23FollowsFromASetOfThoseThereAre() {
@@ -367,82 +346,82 @@ final class PromiseEdgeTest {
             int set = sets[i];
             story.idle("follows(" + set + ", 1)", b -> b.follows(set, 1), notB[i]);
         }
-        all(story, "of another set", (b, set) -> b.follows(set, 1), -1, LEAST, -2, -1, 32, 33, 64, 1 << 24, GREATEST);
-        row(story, "follows(4, .)", (b, s) -> b.follows(4, s), -1, 0, 1, 1, 0, 0);
-        all(landless(), "without a LAND", (b, set) -> b.follows(set, 0), -1, 0, 1, 3);
-        row(new Story("facts 1 1"), "without SAYINGS", (b, s) -> b.follows(0, s), -1);
+        story.all("of another set", (b, set) -> b.follows(set, 1), -1, LEAST, -2, -1, 32, 33, 64, 1 << 24, GREATEST);
+        story.row("follows(4, .)", (b, s) -> b.follows(4, s), -1, 0, 1, 1, 0, 0);
+        landless().all("without a LAND", (b, set) -> b.follows(set, 0), -1, 0, 1, 3);
+        new Story("facts 1 1").row("without SAYINGS", (b, s) -> b.follows(0, s), -1);
     }
 
     static void promise24FewestOfASetOfThoseThereAre() {
         Story story = whole();
-        row(story, "fewest(31, .)", (b, s) -> b.fewest(31, s), -1, 1, 2, 4, 1, 16);
-        row(story, "fewest(4, .)", (b, s) -> b.fewest(4, s), -1, -2, 4, 4, -2, -2);
-        row(story, "fewest(0, .)", (b, s) -> b.fewest(0, s), -1, -2, -2, -2, -2, -2);
-        all(story, "of another set", (b, set) -> b.fewest(set, 1), -1, LEAST, -2, -1, 32, 33, 64, 1 << 24, GREATEST);
-        all(landless(), "without a LAND", (b, set) -> b.fewest(set, 0), -1, 0, 1, 3);
+        story.row("fewest(31, .)", (b, s) -> b.fewest(31, s), -1, 1, 2, 4, 1, 16);
+        story.row("fewest(4, .)", (b, s) -> b.fewest(4, s), -1, -2, 4, 4, -2, -2);
+        story.row("fewest(0, .)", (b, s) -> b.fewest(0, s), -1, -2, -2, -2, -2, -2);
+        story.all("of another set", (b, set) -> b.fewest(set, 1), -1, LEAST, -2, -1, 32, 33, 64, 1 << 24, GREATEST);
+        landless().all("without a LAND", (b, set) -> b.fewest(set, 0), -1, 0, 1, 3);
     }
 
     static void promise25OppositeOfTwoUnlike() {
         Story story = whole();
-        row(story, "opposite(4, .)", (b, s) -> s == 4 ? 7 : b.opposite(4, s), -1, 0, 1, 1, 0, 7);
-        row(story, "opposite(., 4)", (b, s) -> s == 4 ? 7 : b.opposite(s, 4), -1, 0, 1, 1, 0, 7);
+        story.row("opposite(4, .)", (b, s) -> s == 4 ? 7 : b.opposite(4, s), -1, 0, 1, 1, 0, 7);
+        story.row("opposite(., 4)", (b, s) -> s == 4 ? 7 : b.opposite(s, 4), -1, 0, 1, 1, 0, 7);
         for (int s = -1; s <= 5; s++) {
             int told = s;
             story.idle("opposite(" + s + ", " + s + ")", b -> b.opposite(told, told), -1);
         }
-        all(landless(), "without a LAND", (b, s) -> b.opposite(0, s), -1, 0, 1);
+        landless().all("without a LAND", (b, s) -> b.opposite(0, s), -1, 0, 1);
     }
 
     static void promise26WhenOfThoseThereAre() {
         Story story = whole();
-        row(story, "when(., 0)", (b, s) -> b.when(s, 0), -1, 0, 0, 0, 0, -2);
-        row(story, "when(., 2)", (b, s) -> b.when(s, 2), -1, -2, 2, 2, -2, -2);
-        all(story, "when(1, .)", (b, day) -> b.when(1, day), -1, LEAST, -1, 10000, GREATEST);
-        all(landless(), "without a LAND", (b, day) -> b.when(0, day), -1, -1, 0, 9999);
+        story.row("when(., 0)", (b, s) -> b.when(s, 0), -1, 0, 0, 0, 0, -2);
+        story.row("when(., 2)", (b, s) -> b.when(s, 2), -1, -2, 2, 2, -2, -2);
+        story.all("when(1, .)", (b, day) -> b.when(1, day), -1, LEAST, -1, 10000, GREATEST);
+        landless().all("without a LAND", (b, day) -> b.when(0, day), -1, -1, 0, 9999);
     }
 
     static void promise27LeastOfThoseThereAre() {
         Story story = whole();
-        row(story, "least(., 0)", (b, p) -> b.least(p, 0), -1, 3, 1, -2);
-        row(story, "least(., 1)", (b, p) -> b.least(p, 1), -1, 0, 0, -2);
-        row(story, "least(0, .)", (b, w) -> b.least(0, w), -1, 3, 0);
-        row(story, "least(2, .)", (b, w) -> b.least(2, w), -1, -2, -2);
-        all(landless(), "without a LAND", (b, p) -> b.least(p, 0), -1, -1, 0);
+        story.row("least(., 0)", (b, p) -> b.least(p, 0), -1, 3, 1, -2);
+        story.row("least(., 1)", (b, p) -> b.least(p, 1), -1, 0, 0, -2);
+        story.row("least(0, .)", (b, w) -> b.least(0, w), -1, 3, 0);
+        story.row("least(2, .)", (b, w) -> b.least(2, w), -1, -2, -2);
+        landless().all("without a LAND", (b, p) -> b.least(p, 0), -1, -1, 0);
     }
 
     static void promise28PlanForASide() {
         Story story = whole();
-        row(story, "plan(0, .)", (b, w) -> b.plan(0, w), -1, 1, 0, 0, -2, -2, -2, -2, -2, -2);
-        row(story, "plan(1, .)", (b, w) -> b.plan(1, w), -1, 1, 1, 1, -2, -2, -2, -2, -2, -2);
-        row(story, "plan(., 0)", (b, side) -> b.plan(side, 0), -1, 1, 1);
-        row(story, "plan(2, .)", (b, w) -> b.plan(2, w), -1);
-        row(story, "plan(-1, .)", (b, w) -> b.plan(-1, w), -1);
-        row(landless(), "without a LAND", (b, w) -> b.plan(0, w), -1);
+        story.row("plan(0, .)", (b, w) -> b.plan(0, w), -1, 1, 0, 0, -2, -2, -2, -2, -2, -2);
+        story.row("plan(1, .)", (b, w) -> b.plan(1, w), -1, 1, 1, 1, -2, -2, -2, -2, -2, -2);
+        story.row("plan(., 0)", (b, side) -> b.plan(side, 0), -1, 1, 1);
+        story.row("plan(2, .)", (b, w) -> b.plan(2, w), -1);
+        story.row("plan(-1, .)", (b, w) -> b.plan(-1, w), -1);
+        landless().row("without a LAND", (b, w) -> b.plan(0, w), -1);
     }
 
     static void promise29WalkOfThoseThereAre() {
         Story story = whole();
-        row(story, "walk(., 0)", (b, p) -> b.walk(p, 0), -1, 0, 0, 0);
-        row(story, "walk(., 1)", (b, p) -> b.walk(p, 1), -1, 0, 0, 1);
-        row(story, "walk(2, .)", (b, w) -> b.walk(2, w), -1, 0, 1);
+        story.row("walk(., 0)", (b, p) -> b.walk(p, 0), -1, 0, 0, 0);
+        story.row("walk(., 1)", (b, p) -> b.walk(p, 1), -1, 0, 0, 1);
+        story.row("walk(2, .)", (b, w) -> b.walk(2, w), -1, 0, 1);
         story.due("2 falls", b -> b.cross(2, 4), 0);
-        row(story, "then walk(2, .)", (b, w) -> b.walk(2, w), -1, -2, -2);
-        all(landless(), "without a LAND", (b, p) -> b.walk(p, 0), -1, -1, 0);
+        story.row("then walk(2, .)", (b, w) -> b.walk(2, w), -1, -2, -2);
+        landless().all("without a LAND", (b, p) -> b.walk(p, 0), -1, -1, 0);
     }
 
     static void promise30BoughtOfThoseThereAre() {
         Story story = whole();
-        row(story, "bought(., 0)", (b, p) -> b.bought(p, 0), -1, 0, 0, 0);
-        row(story, "bought(., 1)", (b, p) -> b.bought(p, 1), -1, 0, 0, 2);
-        row(story, "bought(2, .)", (b, w) -> b.bought(2, w), -1, 0, 2);
+        story.row("bought(., 0)", (b, p) -> b.bought(p, 0), -1, 0, 0, 0);
+        story.row("bought(., 1)", (b, p) -> b.bought(p, 1), -1, 0, 0, 2);
+        story.row("bought(2, .)", (b, w) -> b.bought(2, w), -1, 0, 2);
         story.due("2 falls", b -> b.cross(2, 4), 0);
-        row(story, "then bought(2, .)", (b, w) -> b.bought(2, w), -1, -2, -2);
-        all(landless(), "without a LAND", (b, p) -> b.bought(p, 0), -1, -1, 0);
+        story.row("then bought(2, .)", (b, w) -> b.bought(2, w), -1, -2, -2);
+        landless().all("without a LAND", (b, p) -> b.bought(p, 0), -1, -1, 0);
     }
 
     static void promise31TrialOfThoseThereAre() {
         Story story = whole();
-        all(story, "of no SAYING", (b, s) -> b.trial(s, true), -2, LEAST, -3, -2, 5, 6, 24, GREATEST);
+        story.all("of no SAYING", (b, s) -> b.trial(s, true), -2, LEAST, -3, -2, 5, 6, 24, GREATEST);
         story.due("the last", b -> b.trial(4, false), 1);
         story.due("the first", b -> b.trial(0, true), 2);
         story.idle("TRIALS", b -> b.count(10), 2);
@@ -450,22 +429,22 @@ final class PromiseEdgeTest {
         story.idle("none", b -> b.trial(-1, false), 0);
         Story none = landless();
         none.idle("none without a LAND", b -> b.trial(-1, true), 0);
-        all(none, "without a LAND", (b, s) -> b.trial(s, true), -2, LEAST, -2, 0, 1, 2);
+        none.all("without a LAND", (b, s) -> b.trial(s, true), -2, LEAST, -2, 0, 1, 2);
         none.idle("no TRIALS", b -> b.count(10), 0);
     }
 
     static void promise32SetsWhat() {
         Story story = whole();
-        row(story, "sets", TruthBridge::sets, -1, 32, 0, 0);
-        row(landless(), "without a LAND", TruthBridge::sets, -1);
-        row(new Story("facts 1 1"), "without SAYINGS", TruthBridge::sets, -1, 1, 0, 0);
+        story.row("sets", TruthBridge::sets, -1, 32, 0, 0);
+        landless().row("without a LAND", TruthBridge::sets, -1);
+        new Story("facts 1 1").row("without SAYINGS", TruthBridge::sets, -1, 1, 0, 0);
     }
 
     static void promise33NextWhat() {
         Story story = whole();
-        row(story, "next", TruthBridge::next, -1, 4, 16);
-        row(landless(), "without a LAND", TruthBridge::next, -1);
-        row(new Story("facts 1 1"), "without SAYINGS", TruthBridge::next, -1, -2, -2);
+        story.row("next", TruthBridge::next, -1, 4, 16);
+        landless().row("without a LAND", TruthBridge::next, -1);
+        new Story("facts 1 1").row("without SAYINGS", TruthBridge::next, -1, -2, -2);
     }
 
     static void promise34SeedFrom0To2147483647() {
@@ -473,7 +452,7 @@ final class PromiseEdgeTest {
         story.idle("0 as at first", b -> b.seed(0), 0);
         story.due("1", b -> b.seed(1), 0);
         story.due("the greatest", b -> b.seed(GREATEST), 1);
-        all(story, "below 0", TruthBridge::seed, -1, LEAST, LEAST + 1, -2, -1);
+        story.all("below 0", TruthBridge::seed, -1, LEAST, LEAST + 1, -2, -1);
         story.idle("x stays", b -> b.count(12), GREATEST);
         story.due("the greatest but one", b -> b.seed(GREATEST - 1), GREATEST);
         story.due("0", b -> b.seed(0), GREATEST - 1);
@@ -481,11 +460,11 @@ final class PromiseEdgeTest {
 
     static void promise35YearsWhat() {
         Story story = new Story("facts 1 1;person 0 1 0 0", "a");
-        row(story, "years(10, 60, .)", (b, w) -> b.years(10, 60, w), -1, 10, 590, 10);
-        row(story, "years(1, 1, .)", (b, w) -> b.years(1, 1, w), -1, 1, 0, 1);
-        all(story, "m", (b, m) -> b.years(m, 1, 0), -1, LEAST, -1, 0, 11, GREATEST);
-        all(story, "n", (b, n) -> b.years(1, n, 0), -1, LEAST, -1, 0, 61, GREATEST);
-        row(landless(), "without a LAND", (b, w) -> b.years(1, 1, w), -1);
+        story.row("years(10, 60, .)", (b, w) -> b.years(10, 60, w), -1, 10, 590, 10);
+        story.row("years(1, 1, .)", (b, w) -> b.years(1, 1, w), -1, 1, 0, 1);
+        story.all("m", (b, m) -> b.years(m, 1, 0), -1, LEAST, -1, 0, 11, GREATEST);
+        story.all("n", (b, n) -> b.years(1, n, 0), -1, LEAST, -1, 0, 61, GREATEST);
+        landless().row("without a LAND", (b, w) -> b.years(1, 1, w), -1);
     }
 
     static void promise36CountWhat() {
@@ -495,13 +474,13 @@ final class PromiseEdgeTest {
         story.due("trial", b -> b.trial(1, false), 1);
         story.due("seed", b -> b.seed(GREATEST), 0);
         story.due("feed", b -> b.feed(0, 0, 0, 0, 0), 20);
-        row(story, "count", TruthBridge::count, -1, 3, 5, 3, 3, 1, 1, 5, 1, 1, 6, 1, 2, GREATEST, 20);
-        row(landless(), "count", TruthBridge::count, -1, 0, 0, 0, 0, 0, 0, 2, 1, 0, -1, 0, 0, 0, 0);
+        story.row("count", TruthBridge::count, -1, 3, 5, 3, 3, 1, 1, 5, 1, 1, 6, 1, 2, GREATEST, 20);
+        landless().row("count", TruthBridge::count, -1, 0, 0, 0, 0, 0, 0, 2, 1, 0, -1, 0, 0, 0, 0);
     }
 
     static void promise37ImageOfNothingTold() {
         Story story = new Story();
-        all(story, "another IMAGE", TruthBridge::image, -1, LEAST, -2, -1, 4, 5, GREATEST);
+        story.all("another IMAGE", TruthBridge::image, -1, LEAST, -2, -1, 4, 5, GREATEST);
         story.due("of nothing", b -> b.image(0), 0);
         story.land("facts 2 3;person 0 1 0 0", 1);
         story.saying("a", 0);
@@ -511,11 +490,11 @@ final class PromiseEdgeTest {
         story.due("seed", b -> b.seed(3), 0);
         story.due("of that", b -> b.image(3), 1);
         story.due("back to nothing", b -> b.back(0), 0);
-        row(story, "count", TruthBridge::count, -1, 0, 0, 0, 0, 0, 0, 1, 0, 0, -1, 0, 0, 0, 0);
+        story.row("count", TruthBridge::count, -1, 0, 0, 0, 0, 0, 0, 1, 0, 0, -1, 0, 0, 0, 0);
         story.idle("no LAND", TruthBridge::midnight, -1);
         story.idle("nothing to be UNDONE", TruthBridge::undo, -2);
         story.due("and back", b -> b.back(3), 1);
-        row(story, "then count", TruthBridge::count, -1, 2, 3, 1, 0, 0, 0, 1, 0, 1, 2, 1, 2, 3, 0);
+        story.row("then count", TruthBridge::count, -1, 2, 3, 1, 0, 0, 0, 1, 0, 1, 2, 1, 2, 3, 0);
     }
 
     static void promise37ImageMadeAnew() {
@@ -535,11 +514,11 @@ final class PromiseEdgeTest {
         story.due("cross", b -> b.cross(2, 3), 3);
         story.due("image", b -> b.image(2), 0);
         story.due("midnight", TruthBridge::midnight, 1);
-        all(story, "back", TruthBridge::back, -1, LEAST, -2, -1, 0, 1, 3, 4, GREATEST);
+        story.all("back", TruthBridge::back, -1, LEAST, -2, -1, 0, 1, 3, 4, GREATEST);
         story.due("back", b -> b.back(2), 0);
         story.idle("DAY", b -> b.count(8), 0);
         story.idle("who is over", b -> b.person(2, 0), 1);
-        all(story, "back", TruthBridge::back, -1, LEAST, -2, -1, 0, 1, 3, 4, GREATEST);
+        story.all("back", TruthBridge::back, -1, LEAST, -2, -1, 0, 1, 3, 4, GREATEST);
     }
 
     static void term512CallsOfOneObject() {

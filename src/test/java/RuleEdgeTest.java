@@ -71,6 +71,8 @@ final class RuleEdgeTest {
         }
         String never = "say 1 if 1=2;".repeat(11);
         above(never + "say 1");
+        above(never + "say 1 if 1=1");
+        notAbove(never + "say 1 if 1=2");
         notAbove(never + "say 0");
         notAbove("say 0;" + "say 1;".repeat(10) + "say 1");
     }
@@ -138,6 +140,16 @@ final class RuleEdgeTest {
         right("say 1 if " + "not ".repeat(10) + "1=1 and [1=1]");
         right("say 1 if " + ten + ";say 2 if " + ten);
         wrong("say 1 if " + ten + " and " + "[".repeat(11), 9 + 23 + 5 + 10, 2);
+    }
+
+    static void termRuleDeep10WithMuchAheadOfEachBracket() {
+        String nine = "1=2 or 1=1 and [".repeat(9);
+        String closed = "]".repeat(9);
+        above("say 1 if " + nine + "0=1-1*1" + closed);
+        notAbove("say 1 if " + nine + "0=1-1*2" + closed);
+        above("say 1 if " + nine + "not 0=2-1*1" + closed);
+        notAbove("say 1 if " + nine.replace("1=1", "2=1") + "0=1-1*1" + closed);
+        wrong("say 1 if " + nine + "0=1-1*1+1" + closed, 9 + nine.length() + 8, 3);
     }
 
     static void termRuleValuesUpTo60() {
@@ -320,10 +332,7 @@ final class RuleEdgeTest {
     static void termRuleWordDayAtTheLast() {
         Story story = new Story("facts 1 1;person 0 1 0 0", "a");
         story.rule("say 1 if day=9998", 0);
-        for (int i = 0; i < 166; i++) {
-            story.due("run", b -> b.run(0, 60), 0);
-        }
-        story.due("up to DAY 9997", b -> b.run(0, 37), 0);
+        story.days(0, 9997);
         story.due("DAY 9997", b -> b.run(0, 1), 0);
         story.due("DAY 9998", b -> b.run(0, 1), 1);
         story.due("no DAY more", b -> b.run(0, 1), -1);

@@ -12,6 +12,11 @@ final class Story {
         int on(TruthBridge bridge);
     }
 
+    /** A call with an argument. */
+    interface Of {
+        int on(TruthBridge bridge, int value);
+    }
+
     private static final int MOST_CALLS = 512;
     // So many calls are left on each new object for a row that belongs together.
     private static final int LONGEST_ROW = 120;
@@ -56,6 +61,39 @@ final class Story {
         keepBefore();
         make(what, call, 1, want);
         idle.add(what);
+        return this;
+    }
+
+    /** The arguments from 0 on are answered by a row, and nothing changes. */
+    Story each(String what, Of call, int... want) {
+        for (int i = 0; i < want.length; i++) {
+            int value = i;
+            idle(what + " of " + i, b -> call.on(b, value), want[i]);
+        }
+        return this;
+    }
+
+    /** Each of these arguments is answered by the same, and nothing changes. */
+    Story all(String what, Of call, int want, int... values) {
+        for (int value : values) {
+            idle(what + " of " + value, b -> call.on(b, value), want);
+        }
+        return this;
+    }
+
+    /** The arguments from 0 on by a row; those just outside of it, and far from it, by another answer. */
+    Story row(String what, Of call, int other, int... want) {
+        int many = want.length;
+        return each(what, call, want)
+                .all(what, call, other, Integer.MIN_VALUE, -2, -1, many, many + 1, 1 << 16, Integer.MAX_VALUE);
+    }
+
+    /** DAYS go by BY A RULE by which nobody gets over. */
+    Story days(int rule, int days) {
+        for (int left = days; left > 0; left -= 60) {
+            int n = Math.min(left, 60);
+            due("run", b -> b.run(rule, n), 0);
+        }
         return this;
     }
 
@@ -198,7 +236,7 @@ final class Story {
     }
 
     /** Calls that belong together, on an object of their own. */
-    private void row(Call... row) {
+    private void seeRow(Call... row) {
         TruthBridge twin = again();
         for (int i = 0; i < Math.min(row.length, LONGEST_ROW); i++) {
             seen.add(row[i].on(twin));
@@ -277,10 +315,10 @@ final class Story {
     }
 
     private void seeUndoing() {
-        row(repeat(21, TruthBridge::undo, b -> b.count(8), b -> b.count(1), b -> b.count(9)));
+        seeRow(repeat(21, TruthBridge::undo, b -> b.count(8), b -> b.count(1), b -> b.count(9)));
         for (int p = 0; p < 6; p++) {
             int who = p;
-            row(repeat(21, TruthBridge::undo, b -> b.person(who, 0), b -> b.person(who, 3), b -> b.person(who, 4),
+            seeRow(repeat(21, TruthBridge::undo, b -> b.person(who, 0), b -> b.person(who, 3), b -> b.person(who, 4),
                     b -> b.person(who, 5)));
         }
     }
@@ -288,7 +326,7 @@ final class Story {
     private void seeImages() {
         for (int i = 0; i < 4; i++) {
             int k = i;
-            row(b -> b.back(k), b -> b.count(0), b -> b.count(1), b -> b.count(8), b -> b.count(9), b -> b.count(10),
+            seeRow(b -> b.back(k), b -> b.count(0), b -> b.count(1), b -> b.count(8), b -> b.count(9), b -> b.count(10),
                     b -> b.count(11), b -> b.count(12), b -> b.sets(0), b -> b.person(0, 0), b -> b.person(0, 5),
                     b -> b.undo(), b -> b.count(8), b -> b.count(9), b -> b.person(0, 5));
         }
@@ -297,17 +335,17 @@ final class Story {
     private void seeRules() {
         for (int i = 0; i < 6; i++) {
             int r = i;
-            row(b -> b.run(r, 3), b -> b.count(1), b -> b.count(8), b -> b.count(9), b -> b.person(0, 0),
+            seeRow(b -> b.run(r, 3), b -> b.count(1), b -> b.count(8), b -> b.count(9), b -> b.person(0, 0),
                     b -> b.person(1, 0), b -> b.person(2, 0), b -> b.run(r, 60), b -> b.count(1), b -> b.count(9));
         }
-        row(b -> b.midnight(), b -> b.count(8), b -> b.count(1), b -> b.count(9), b -> b.count(11));
+        seeRow(b -> b.midnight(), b -> b.count(8), b -> b.count(1), b -> b.count(9), b -> b.count(11));
     }
 
     private void seeTape() {
-        row(TruthBridge::land, b -> b.count(0), b -> b.count(1), b -> b.count(2), b -> b.count(13));
-        row(TruthBridge::saying, b -> b.count(6), b -> b.so(b.count(6) - 1, 1), b -> b.count(13));
-        row(TruthBridge::rule, b -> b.count(7), b -> b.run(b.count(7) - 1, 1), b -> b.count(13));
-        row(b -> b.end(b.count(13) - 1), TruthBridge::saying, b -> b.count(6));
+        seeRow(TruthBridge::land, b -> b.count(0), b -> b.count(1), b -> b.count(2), b -> b.count(13));
+        seeRow(TruthBridge::saying, b -> b.count(6), b -> b.so(b.count(6) - 1, 1), b -> b.count(13));
+        seeRow(TruthBridge::rule, b -> b.count(7), b -> b.run(b.count(7) - 1, 1), b -> b.count(13));
+        seeRow(b -> b.end(b.count(13) - 1), TruthBridge::saying, b -> b.count(6));
     }
 
     private static Call[] repeat(int times, Call... calls) {
