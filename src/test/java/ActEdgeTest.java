@@ -272,6 +272,16 @@ final class ActEdgeTest {
         }
     }
 
+    static void termLookTellsWhatFollowsFromWhatWasKnown() {
+        Story story = new Story("facts 3 2;person 0 1 6 0;person 0 1 0 0;place 0", "a or b", "b");
+        story.due("a or b is told", b -> b.tell(0, 1, 0), 6);
+        story.idle("not which of them", b -> b.person(1, 6), 0);
+        story.due("a is not so", b -> b.look(1, 0), 0);
+        story.idle("so b is", b -> b.knows(1, 1), 1);
+        story.idle("both are KNOWN", b -> b.person(1, 6), 3);
+        story.idle("WORLDS", b -> b.person(1, 5), 2);
+    }
+
     static void termMidnightWithoutALand() {
         new Story().idle("midnight", TruthBridge::midnight, -1);
     }
@@ -359,6 +369,22 @@ final class ActEdgeTest {
             story.idle("as it is", b -> b.possible(-1, 255 ^ 1 << f), 1);
             story.idle("as it was", b -> b.possible(-1, 255), 1);
         }
+    }
+
+    /** What was known of two FACTS together is not known behind the TURN of one of them. */
+    static void termMidnightWhatWasKnownOfThatFactAndAnother() {
+        String alike = "a and b or not a and not b";
+        Story story = new Story("facts 3 7;person 0 1 3 0;person 0 1 0 0;turn 0 1", "a or b", alike, "c", "b", "a");
+        story.due("the bridge is told that they are alike", b -> b.cross(0, 1), 3);
+        story.due("so is 1", b -> b.tell(0, 1, 1), -1);
+        story.due("1 goes over by c", b -> b.cross(1, 2), 3);
+        story.due("and is told it there", b -> b.tell(0, 1, 1), 4);
+        story.due("midnight", TruthBridge::midnight, 1);
+        story.each("the bridge: knows(-1, .)", (b, s) -> b.knows(-1, s), 0, 0, 1, 0, 0);
+        story.each("1: knows(1, .)", (b, s) -> b.knows(1, s), 0, 0, 0, 0, 0);
+        story.each("0, who knew both: knows(0, .)", (b, s) -> b.knows(0, s), 1, 0, 0, 1, 0);
+        story.idle("but for c the bridge HOLDS all", b -> b.count(9), 4);
+        story.idle("1 HOLDS all", b -> b.person(1, 5), 8);
     }
 
     static void termUndoNothing() {

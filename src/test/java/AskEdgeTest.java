@@ -400,6 +400,14 @@ final class AskEdgeTest {
         free.idle("0 HOURS are fewer", b -> b.walk(0, 1), 1);
     }
 
+    static void termWalkToWhatMakesAnotherFactKnown() {
+        Story story = new Story("facts 2 2;person 0 1 2 0;person 0 2 0 0;place 0;place 0;path 0 1 4", "a or b", "b");
+        story.idle("a alone tells nothing of b", b -> b.walk(1, 0), -2);
+        story.due("a or b is told", b -> b.tell(0, 1, 0), 3);
+        story.idle("that a is not so tells b", b -> b.walk(1, 0), 0);
+        story.idle("as seen at the bridge", b -> b.walk(1, 1), 1);
+    }
+
     static void termWalkThroughAllSixPlaces() {
         String places = "place 0;place 1;place 2;place 3;place 4;place 5;";
         String row = "path 0 1 2;path 1 2 2;path 2 3 2;path 3 4 3;path 4 5 3";
@@ -435,6 +443,16 @@ final class AskEdgeTest {
         story.idle("all others", b -> b.bought(0, 1), 62);
         story.idle("for the last", b -> b.bought(5, 0), 495);
         story.idle("all others", b -> b.bought(5, 1), 31);
+    }
+
+    /** One KNOWS a or b, one not a, the buyer c: together b and c, which none of them KNOWS. */
+    static void termBoughtWhatNoneOfThemKnows() {
+        Story story = new Story("facts 3 6;person 0 6 4 0;person 0 1 0 3;person 1 1 1 4;person 0 1 6 50", "a or b", "b and c");
+        story.due("3 tells 1", b -> b.tell(3, 1, 0), 6);
+        story.idle("coins", b -> b.bought(0, 0), 7);
+        story.idle("of 1 and 2, not of 3", b -> b.bought(0, 1), 6);
+        story.idle("a or b bears 1", b -> b.bought(1, 1), 0);
+        story.idle("3 KNOWS b and c", b -> b.bought(3, 1), 0);
     }
 
     static void termBoughtOfSeveralSetsTheLeast() {
@@ -585,6 +603,23 @@ final class AskEdgeTest {
             story.due("seed", b -> b.seed(from), before(x, from));
             story.idle("over from " + from, b -> b.years(1, 1, 0), over);
             story.idle("FELL from " + from, b -> b.years(1, 1, 1), 1 - over);
+        }
+    }
+
+    /** Just one of n SAYINGS is so: one gets over by the first DRAW just if it is that one. */
+    static void termDrawsModHowManySayingsThereAre() {
+        for (int n : new int[] {1, 2, 3, 5, 7, 16, 23, 24}) {
+            int from = 1000003 * n;
+            int draw = (int) ((from * 1103515245L + 12345) % 2147483648L / 65536);
+            for (int so = 0; so < n; so++) {
+                int over = draw % n == so ? 1 : 0;
+                Story story = new Story("facts 1 1;person 0 1 0 0");
+                for (int i = 0; i < n; i++) {
+                    story.saying(i == so ? "a" : "not a", i);
+                }
+                story.due("seed", b -> b.seed(from), 0);
+                story.idle(n + " SAYINGS, " + so + " is so: over", b -> b.years(1, 1, 0), over);
+            }
         }
     }
 
